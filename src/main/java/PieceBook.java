@@ -1232,23 +1232,13 @@ public final class PieceBook {
 
         void become(Leaf other) {
             pieces = 0;
-            makeRoom(other.pieces);
+            openGap(0, other.pieces);
             System.arraycopy(other.source, 0, source, 0, other.pieces);
             System.arraycopy(other.length, 0, length, 0, other.pieces);
-            pieces = other.pieces;
             signs = other.signs;
             for (int i = 0; i < MARKS_MOST; i++) {
                 marked[i] = other.marked[i];
                 sticks[i] = other.sticks[i];
-            }
-        }
-
-        /** Rows grow by doubling and are used again, as nothing of what a run makes is given back. */
-        void makeRoom(int n) {
-            if (n > source.length) {
-                int size = Math.max(n, Math.min(2 * source.length, BOOK_MOST));
-                source = Arrays.copyOf(source, size);
-                length = Arrays.copyOf(length, size);
             }
         }
 
@@ -1259,11 +1249,17 @@ public final class PieceBook {
             signs += n;
         }
 
+        /** Rows grow by doubling and are used again, as nothing of what a run makes is given back. */
         void openGap(int i, int n) {
-            makeRoom(pieces + n);
+            int more = pieces + n;
+            if (more > source.length) {
+                int size = Math.max(more, Math.min(2 * source.length, BOOK_MOST));
+                source = Arrays.copyOf(source, size);
+                length = Arrays.copyOf(length, size);
+            }
             System.arraycopy(source, i, source, i + n, pieces - i);
             System.arraycopy(length, i, length, i + n, pieces - i);
-            pieces += n;
+            pieces = more;
         }
 
         void closeGap(int i, int n) {
@@ -1473,11 +1469,11 @@ public final class PieceBook {
         }
 
         Leaf beginEdit() {
-            Leaf ahead = current();
+            Leaf ahead = ago(0);
             slot = (slot + 1) % (EDITS_MOST + 1);
             undoable = Math.min(undoable + 1, EDITS_MOST);
             redoable = 0;
-            Leaf leaf = current();
+            Leaf leaf = ago(0);
             leaf.become(ahead);
             return leaf;
         }

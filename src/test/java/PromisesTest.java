@@ -904,6 +904,9 @@ public final class PromisesTest {
         due(row(x), "2");
         put(x, 0, "z");
         x.takes(0, 1);
+        due(x.from(2, 0), -1);
+        due(x.from(1, 1), -1);
+        due(row(x), "2");
         due(x.from(1, 0), 0);
         due(x.count(7), 0);
         for (int i = 0; i < 13; i++) {
