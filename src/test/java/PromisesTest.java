@@ -1,146 +1,5 @@
-import java.util.NoSuchElementException;
-
 /** Each promise of the document by itself: ordinary inputs, the edges it names, wrong inputs. */
-public final class PromisesTest {
-    private static int asked;
-    private static int wrong;
-    private static int promise;
-
-    private interface Asked {
-        long of();
-    }
-
-    private static void due(long got, long want) {
-        asked++;
-        if (got != want) {
-            tellWrong(Long.toString(got), Long.toString(want));
-        }
-    }
-
-    private static void due(String got, String want) {
-        asked++;
-        if (!got.equals(want)) {
-            tellWrong(got, want);
-        }
-    }
-
-    private static void due(boolean got, boolean want) {
-        due(Boolean.toString(got), Boolean.toString(want));
-    }
-
-    private static void dueNoSuchElement(Asked call) {
-        asked++;
-        try {
-            tellWrong(Long.toString(call.of()), "NoSuchElementException");
-        } catch (NoSuchElementException e) {
-            return;
-        }
-    }
-
-    private static void tellWrong(String got, String want) {
-        wrong++;
-        StackTraceElement[] trace = new Throwable().getStackTrace();
-        int line = 0;
-        for (StackTraceElement e : trace) {
-            if (e.getMethodName().startsWith("promise")) {
-                line = e.getLineNumber();
-                break;
-            }
-        }
-        System.out.println("promise " + promise + ", line " + line + ": answered " + got + ", due is " + want);
-    }
-
-    // ---- help
-
-    private static PieceBook text(PieceBook x, String s) {
-        x.end(0);
-        for (int i = 0; i < s.length(); i += 4) {
-            int v = 0;
-            for (int k = i; k < i + 4; k++) {
-                v = v << 8 | (k < s.length() ? s.charAt(k) : 0);
-            }
-            x.sign(v);
-        }
-        x.end(s.length());
-        return x;
-    }
-
-    private static PieceBook open(String s) {
-        PieceBook x = new PieceBook();
-        text(x, s).opens(1);
-        return x;
-    }
-
-    private static PieceBook openTimes(String s, int n) {
-        PieceBook x = new PieceBook();
-        text(x, s).opens(n);
-        return x;
-    }
-
-    private static void put(PieceBook x, int p, String s) {
-        text(x, s).inserts(p);
-    }
-
-    private static void typeAll(PieceBook x, int p, String s) {
-        for (int i = 0; i < s.length(); i++) {
-            x.type(p + i, s.charAt(i));
-        }
-    }
-
-    private static String shown(PieceBook x) {
-        StringBuilder b = new StringBuilder();
-        for (int p = 0; p < x.count(0); p++) {
-            b.append((char) x.at(p));
-        }
-        return b.toString().replace("\n", "/");
-    }
-
-    /** Store, start and length of each piece, as 0.3+2. */
-    private static String pieces(PieceBook x) {
-        StringBuilder b = new StringBuilder();
-        for (int i = 0; i < x.count(2); i++) {
-            b.append(i == 0 ? "" : " ");
-            b.append(x.piece(i, 0)).append('.').append(x.piece(i, 1)).append('+').append(x.piece(i, 2));
-        }
-        return b.toString();
-    }
-
-    private static String row(PieceBook x) {
-        StringBuilder b = new StringBuilder();
-        for (int i = 0; i < x.count(7); i++) {
-            b.append(i == 0 ? "" : " ").append(x.row(i));
-        }
-        return b.toString();
-    }
-
-    private static String marked(PieceBook x) {
-        StringBuilder b = new StringBuilder();
-        for (int i = 0; i < 8; i++) {
-            if (x.mark(i) >= 0) {
-                b.append(b.length() == 0 ? "" : " ").append(i).append('@').append(x.mark(i));
-            }
-        }
-        return b.toString();
-    }
-
-    /** A book with the added filled up to so many signs, of which none is shown. */
-    private static PieceBook filled(int added) {
-        PieceBook x = openTimes("\n".repeat(80), 10);
-        while (x.count(3) < added) {
-            int lines = Math.min(800, added - x.count(3));
-            x.indents(0, lines - 1, 1);
-            x.undo();
-        }
-        return x;
-    }
-
-    /** A book of 2960 signs a in one piece and its copies. */
-    private static PieceBook nearlyFull() {
-        PieceBook x = openTimes("a".repeat(80), 20);
-        x.lays(0, 1360, 0);
-        return x;
-    }
-
+public final class PromisesTest extends Asking {
     // ---- the text, the original
 
     private static void promise1() {
@@ -1443,14 +1302,12 @@ public final class PromisesTest {
             PromisesTest::promise40, PromisesTest::promise41, PromisesTest::promise42, PromisesTest::promise43,
             PromisesTest::promise44, PromisesTest::promise45, PromisesTest::promise46, PromisesTest::promise47,
             PromisesTest::promise48, PromisesTest::promise49, PromisesTest::promise50, PromisesTest::promise51};
-        for (promise = 1; promise <= all.length; promise++) {
+        for (int promise = 1; promise <= all.length; promise++) {
+            about("promise " + promise);
             all[promise - 1].test();
         }
-        promise = 7;
+        about("promise 7");
         promise7between();
-        System.out.println("PromisesTest: " + asked + " answers, " + wrong + " wrong");
-        if (wrong > 0) {
-            System.exit(1);
-        }
+        finish("PromisesTest");
     }
 }

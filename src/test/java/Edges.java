@@ -1,0 +1,111 @@
+import java.util.ArrayList;
+import java.util.HashMap;
+import java.util.List;
+import java.util.Map;
+import java.util.regex.Matcher;
+import java.util.regex.Pattern;
+
+/**
+ * Sentences of the document, each with a test of its own. A sentence must stand, word by word, in the section that it
+ * is said to be of; and no word of a promise, and nothing in "Terms" that names a boundary, may be left without one.
+ */
+final class Edges extends Asking {
+    /** Words by which the document names a boundary. */
+    private static final Pattern BOUNDARY = Pattern.compile("NONE:|NONE comes|-\\d+( - [ip])?:|-\\d+,|-100 for|Refused"
+            + "|NoSuchElementException:|\\bfalse\\b|\\bempty\\b|\\bat (the )?most\\b|\\bat least\\b|\\d \\.\\. \\w+|or more\\b"
+            + "|or less\\b|or fewer\\b|more than|nothing (without|for 0|else)|below 0|above 0|\\basked\\b|as ints|without sign"
+            + "|\\balone\\b|of as long ones|if there (is|are|were)|if none|if it is|\\btill\\b|that are kept|is left out"
+            + "|THE BOOK ends|too early|at first|neither|both, too|the first one|nothing is|is lost|unset|ahead of all");
+
+    private final String document;
+    private final Map<String, List<int[]>> told = new HashMap<>();
+    private String heading = "";
+    private String section = "";
+    private int sentences;
+
+    Edges(String document) {
+        this.document = document;
+    }
+
+    /** The sentences that follow are of the section with this heading. */
+    void of(String newHeading) {
+        heading = newHeading;
+        section = sectionOf(newHeading);
+        if (section.isEmpty()) {
+            about(newHeading);
+            tellWrong("the document has no such section");
+        }
+    }
+
+    void ofPromise(int n) {
+        of("Promise " + n);
+    }
+
+    private String sectionOf(String title) {
+        Matcher m = Pattern.compile("(?s)\n## " + title + "\\b[^\n]*\n(.*?)(?=\n## |\\z)").matcher(document);
+        return m.find() ? m.group(1).replaceAll("\\s+", " ") : "";
+    }
+
+    void edge(String sentence, Runnable test) {
+        about(heading + " \"" + sentence + "\"");
+        sentences++;
+        int at = section.indexOf(sentence);
+        if (at < 0 || section.indexOf(sentence, at + 1) >= 0) {
+            tellWrong(at < 0 ? "the document does not say so there" : "the document says so more than once there");
+        }
+        told.computeIfAbsent(heading, h -> new ArrayList<>()).add(new int[] {at, at + sentence.length()});
+        try {
+            test.run();
+        } catch (RuntimeException e) {
+            tellWrong("threw " + e + " at " + e.getStackTrace()[0]);
+        }
+    }
+
+    /** Tells each boundary that a section names and no tested sentence holds. */
+    void lookForBoundaries(String title) {
+        about(title);
+        String words = sectionOf(title);
+        boolean[] tested = tested(title, words);
+        Matcher m = BOUNDARY.matcher(words);
+        while (m.find()) {
+            tellUntested(words, tested, m.start(), m.end());
+        }
+    }
+
+    /** Tells each word of a promise, behind the call's own line, that no tested sentence holds. */
+    void lookForWords(int promise) {
+        String title = "Promise " + promise;
+        about(title);
+        String words = sectionOf(title);
+        boolean[] tested = tested(title, words);
+        Matcher m = Pattern.compile("\\w+").matcher(words);
+        int from = words.indexOf("`:");
+        while (from >= 0 && m.find(from)) {
+            tellUntested(words, tested, m.start(), m.end());
+            from = m.end();
+        }
+    }
+
+    private boolean[] tested(String title, String words) {
+        boolean[] tested = new boolean[words.length()];
+        for (int[] span : told.getOrDefault(title, List.of())) {
+            for (int i = Math.max(0, span[0]); i < span[1] && i < tested.length; i++) {
+                tested[i] = true;
+            }
+        }
+        return tested;
+    }
+
+    private static void tellUntested(String words, boolean[] tested, int from, int behind) {
+        for (int i = from; i < behind; i++) {
+            if (!tested[i]) {
+                tellWrong("no test of \"" + words.substring(from, Math.min(words.length(), behind + 50)) + "\"");
+                return;
+            }
+        }
+    }
+
+    int sentences() {
+        return sentences;
+    }
+}
