@@ -116,7 +116,7 @@ abstract class Asking {
     /** A book of 800 lines with the added filled up to so many signs, of which none is shown. */
     static PieceBook filled(int added) {
         PieceBook x = openTimes("\n".repeat(80), 10);
-        while (x.count(3) < added) {
+        for (int i = 0; i < 8 && x.count(3) < added; i++) {
             int lines = Math.min(800, added - x.count(3));
             x.indents(0, lines - 1, 1);
             x.undo();

@@ -11,11 +11,9 @@ import java.util.regex.Pattern;
  */
 final class Edges extends Asking {
     /** Words by which the document names a boundary. */
-    private static final Pattern BOUNDARY = Pattern.compile("NONE:|NONE comes|-\\d+( - [ip])?:|-\\d+,|-100 for|Refused"
-            + "|NoSuchElementException:|\\bfalse\\b|\\bempty\\b|\\bat (the )?most\\b|\\bat least\\b|\\d \\.\\. \\w+|or more\\b"
-            + "|or less\\b|or fewer\\b|more than|nothing (without|for 0|else)|below 0|above 0|\\basked\\b|as ints|without sign"
-            + "|\\balone\\b|of as long ones|if there (is|are|were)|if none|if it is|\\btill\\b|that are kept|is left out"
-            + "|THE BOOK ends|too early|at first|neither|both, too|the first one|nothing is|is lost|unset|ahead of all");
+    private static final Pattern BOUNDARY = Pattern.compile("NONE comes|-\\d+:|Refused|\\bfalse\\b|\\bempty\\b|unset"
+            + "|\\bat most\\b|\\bat least\\b|\\d \\.\\. \\w+|or more\\b|nothing else|(below|above) \\d|\\bat first\\b"
+            + "|the last one|the one that is told first|ahead of all|that are none|do nothing|refused|too\\b");
 
     private final String document;
     private final Map<String, List<int[]>> told = new HashMap<>();

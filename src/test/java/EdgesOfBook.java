@@ -23,20 +23,20 @@ final class EdgesOfBook extends Asking {
 
     private static void pair(Edges edges) {
         edges.ofPromise(37);
-        edges.edge("The bracket to that at p (one of ( ) [ ] { }, each with its own kind; others aside): its place, counting those of its "
-            + "kind, from p on, or back: it;", () -> {
-                PieceBook x = open("([{)]}");
-                int[] due = {3, 4, 5, 0, 1, 2};
-                for (int p = 0; p < 6; p++) {
-                    due(x.pair(p), due[p]);
-                    due(row(x), "0");
-                }
-                PieceBook y = open("(()())");
-                int[] inOne = {5, 2, 1, 4, 3, 0};
-                for (int p = 0; p < 6; p++) {
-                    due(y.pair(p), inOne[p]);
-                }
-            });
+        edges.edge("The bracket to that at p (one of ( ) [ ] { }, each with its own kind; others aside): its place, "
+            + "counting those of its kind, from p on, or back: it;", () -> {
+            PieceBook x = open("([{)]}");
+            int[] due = {3, 4, 5, 0, 1, 2};
+            for (int p = 0; p < 6; p++) {
+                due(x.pair(p), due[p]);
+                due(row(x), "0");
+            }
+            PieceBook y = open("(()())");
+            int[] inOne = {5, 2, 1, 4, 3, 0};
+            for (int p = 0; p < 6; p++) {
+                due(y.pair(p), inOne[p]);
+            }
+        });
         edges.edge("the ROW: how many of its kind lie between, at the deepest, in one another.", () -> {
             String[] books = {"()", "(())", "(()())", "((())())", "([[]])", "(a)"};
             int[] due = {0, 1, 1, 2, 0, 0};
@@ -72,8 +72,8 @@ final class EdgesOfBook extends Asking {
 
     private static void nested(Edges edges) {
         edges.ofPromise(38);
-        edges.edge("Brackets (of all three kinds) from the first one on: the first place of one that closes another kind than the latest open one "
-            + "is of, or closes while none is open;", () -> {
+        edges.edge("Brackets (of all three kinds) from the first one on: the first place of one that closes another "
+            + "kind than the latest open one is of, or closes while none is open;", () -> {
             String[] books = {"(]", "([)]", "a{(b}", ")", "())", "[](){}}("};
             int[] places = {1, 2, 4, 0, 2, 6};
             for (int i = 0; i < books.length; i++) {
@@ -115,24 +115,38 @@ final class EdgesOfBook extends Asking {
 
     private static void before(Edges edges) {
         edges.ofPromise(39);
-        edges.edge("The most SIGNS from p on that stand, as they are, at a place ahead of p, too (they may lie over one another): how many;",
-            () -> {
-                due(open("aaaa").before(1), 3);
-                due(open("aaaa").before(3), 1);
-                due(open("aaaa").before(0), 0);
-                due(open("ababab").before(2), 4);
-                due(open("abcabd").before(3), 2);
-                due(open("abAB").before(2), 0);
-                // Nothing behind p counts, though more stands there.
-                due(open("abxabcabc").before(3), 2);
-                due(full().before(1), 2999);
-                due(full().before(2999), 1);
-            });
+        edges.edge("The most SIGNS from p on that stand, as they are, at a place ahead of p, too (they may lie over "
+            + "one another): how many;", () -> {
+            due(open("aaaa").before(1), 3);
+            due(open("aaaa").before(3), 1);
+            due(open("aaaa").before(0), 0);
+            due(open("ababab").before(2), 4);
+            due(open("abcabd").before(3), 2);
+            due(open("abAB").before(2), 0);
+            // Nothing behind p counts, though more stands there.
+            due(open("abxabcabc").before(3), 2);
+            due(full().before(1), 2999);
+            due(full().before(2999), 1);
+            // Each book of nine signs a and b, at each place: so what is alike in itself comes in all its ways.
+            for (int signs = 0; signs < 512; signs++) {
+                StringBuilder b = new StringBuilder();
+                for (int i = 0; i < 9; i++) {
+                    b.append((signs >> i & 1) == 0 ? 'a' : 'b');
+                }
+                PieceBook x = open(b.toString());
+                for (int p = 0; p < 9; p++) {
+                    String which = b + " at " + p + ", ";
+                    due(which + x.before(p) + ": " + row(x), which + beforeByHand(b.toString(), p));
+                }
+            }
+        });
         edges.edge("the ROW: the first such place (nothing for 0).", () -> {
             PieceBook x = open("abcabcabd");
             due(x.before(3) + ": " + row(x), "5: 0");
             due(x.before(6) + ": " + row(x), "2: 0");
             due(x.before(4) + ": " + row(x), "4: 1");
+            PieceBook one = open("aab");
+            due(one.before(1) + ": " + row(one), "1: 0");
             due(x.before(8) + ": " + row(x), "0: ");
             due(x.before(0) + ": " + row(x), "0: ");
             PieceBook later = open("axabyab");
@@ -148,9 +162,20 @@ final class EdgesOfBook extends Asking {
         });
     }
 
+    private static String beforeByHand(String book, int p) {
+        for (int n = book.length() - p; n > 0; n--) {
+            int q = book.indexOf(book.substring(p, p + n));
+            if (q < p) {
+                return n + ": " + q;
+            }
+        }
+        return "0: ";
+    }
+
     private static void word(Edges edges) {
         edges.ofPromise(40);
-        edges.edge("A WORD is as many letters and digits (a .. z, A .. Z, 0 .. 9) one behind the other as there are.", () -> {
+        edges.edge("A WORD is as many letters and digits (a .. z, A "
+            + ".. Z, 0 .. 9) one behind the other as there are.", () -> {
             PieceBook all = open("azAZ09");
             for (int p = 0; p <= 6; p++) {
                 due(all.word(p) + ": " + row(all), "0: 6");
@@ -160,14 +185,14 @@ final class EdgesOfBook extends Asking {
                 due(none.word(p), -2);
             }
         });
-        edges.edge("That at place p (one that has SIGN p, or, if none does, SIGN p - 1): where it begins: the place; the ROW: where it ends "
-            + "(behind its last SIGN).", () -> {
-                PieceBook x = open("ab cd");
-                String[] due = {"0: 2", "0: 2", "0: 2", "3: 5", "3: 5", "3: 5"};
-                for (int p = 0; p <= 5; p++) {
-                    due(x.word(p) + ": " + row(x), due[p]);
-                }
-            });
+        edges.edge("That at place p (one that has SIGN p, or, if none does, SIGN p - 1): where it begins: the place; "
+            + "the ROW: where it ends (behind its last SIGN).", () -> {
+            PieceBook x = open("ab cd");
+            String[] due = {"0: 2", "0: 2", "0: 2", "3: 5", "3: 5", "3: 5"};
+            for (int p = 0; p <= 5; p++) {
+                due(x.word(p) + ": " + row(x), due[p]);
+            }
+        });
         edges.edge("-2: there is none;", () -> {
             PieceBook x = open(" a  b-");
             int[] due = {-2, 1, 1, -2, 4, 4, -2};
@@ -186,18 +211,18 @@ final class EdgesOfBook extends Asking {
 
     private static void words(Edges edges) {
         edges.ofPromise(41);
-        edges.edge("How many WORDS there are: how many; the ROW: the longest one's length, the place where it begins (of as long ones the "
-            + "first; nothing without).", () -> {
-                String[] books = {"", " -\n", "a", " ab", "ab cd", "a bc de\nf", "a\nb", "a,b,", "abc"};
-                String[] due = {"0: ", "0: ", "1: 1 0", "1: 2 1", "2: 2 0", "4: 2 2", "2: 1 0", "2: 1 0", "1: 3 0"};
-                for (int i = 0; i < books.length; i++) {
-                    PieceBook x = open(books[i]);
-                    x.longest();
-                    due(x.words() + ": " + row(x), due[i]);
-                }
-                PieceBook most = full();
-                due(most.words() + ": " + row(most), "1: 3000 0");
-            });
+        edges.edge("How many WORDS there are: how many; the ROW: the longest one's length, the place where it begins "
+            + "(of as long ones the first; nothing without).", () -> {
+            String[] books = {"", " -\n", "a", " ab", "ab cd", "a bc de\nf", "a\nb", "a,b,", "abc"};
+            String[] due = {"0: ", "0: ", "1: 1 0", "1: 2 1", "2: 2 0", "4: 2 2", "2: 1 0", "2: 1 0", "1: 3 0"};
+            for (int i = 0; i < books.length; i++) {
+                PieceBook x = open(books[i]);
+                x.longest();
+                due(x.words() + ": " + row(x), due[i]);
+            }
+            PieceBook most = full();
+            due(most.words() + ": " + row(most), "1: 3000 0");
+        });
     }
 
     private static String rowsOf(String book, int w) {
@@ -207,7 +232,8 @@ final class EdgesOfBook extends Asking {
 
     private static void rows(Edges edges) {
         edges.ofPromise(42);
-        edges.edge("How many rows THE BOOK takes, if none may have more than w (1 .. 80) SIGNS (BREAKS aside): each LINE begins a row;", () -> {
+        edges.edge("How many rows THE BOOK takes, if none may have more than w (1 .. 80) SIGNS (BREAKS aside): each "
+            + "LINE begins a row;", () -> {
             due(rowsOf("ab\ncd", 2), "2: 2");
             due(rowsOf("\n", 1), "2: 0");
             due(rowsOf("a\n", 1), "2: 1");
@@ -219,22 +245,25 @@ final class EdgesOfBook extends Asking {
             due(most.rows(1) + ": " + row(most), "3000: 1");
             due(most.rows(80) + ": " + row(most), "38: 80");
         });
-        edges.edge("in a LINE that goes on for more than w SIGNS from where a row begins, the row ends behind the last blank (32) among these "
-            + "first w,", () -> {
-                due(rowsOf("ab cd ef", 6), "2: 6");
-                due(rowsOf("ab cd ef", 7), "2: 6");
-                due(rowsOf("ab cd ef", 5), "2: 5");
-                due(rowsOf("ab  cde", 3), "3: 3");
-                due(rowsOf("abc de", 4), "2: 4");
-                due(rowsOf(" abcd", 4), "2: 4");
-                due(rowsOf("     ", 2), "3: 2");
-                due(rowsOf("a\tbc", 3), "2: 3");
-            });
-        edges.edge("or, if there is none, behind w; else it ends with the LINE: how many; the ROW: how many SIGNS the longest row has.", () -> {
+        edges.edge("in a LINE that goes on for more than w SIGNS from where a row begins, the row ends behind the "
+            + "last blank (32) among these first w,", () -> {
+            due(rowsOf("ab cd ef", 6), "2: 6");
+            due(rowsOf("ab cd ef", 7), "2: 6");
+            due(rowsOf("ab cd ef", 5), "2: 5");
+            due(rowsOf("ab  cde", 3), "3: 3");
+            due(rowsOf("abc de", 4), "2: 4");
+            due(rowsOf(" abcd", 4), "2: 4");
+            due(rowsOf("     ", 2), "3: 2");
+            due(rowsOf("a\tbc", 3), "2: 3");
+        });
+        edges.edge("or, if there is none, behind w; else it ends with the LINE: how many; the ROW: how many SIGNS "
+            + "the longest row has.", () -> {
             due(rowsOf("abcdef", 4), "2: 4");
             due(rowsOf("abcdef", 6), "1: 6");
             due(rowsOf("abcdef", 3), "2: 3");
             due(rowsOf("abcd ef", 4), "2: 4");
+            // A blank at the end of the row ahead is none among these.
+            due(rowsOf("ab cdefgh", 4), "3: 4");
             due(rowsOf("ab cd\nabcdefg", 5), "3: 5");
             due(rowsOf("ab cd \nx", 6), "2: 6");
             due(rowsOf("a b\nccc d", 3), "3: 3");
@@ -252,7 +281,8 @@ final class EdgesOfBook extends Asking {
 
     private static void tally(Edges edges) {
         edges.ofPromise(43);
-        edges.edge("How many SIGNS v there are: how many; the ROW: the first place, the last one (nothing without).", () -> {
+        edges.edge("How many SIGNS v there are: how many; the "
+            + "ROW: the first place, the last one (nothing without).", () -> {
             PieceBook x = open("\nab" + (char) 1 + "a" + (char) 127);
             due(x.tally('a') + ": " + row(x), "2: 1 4");
             due(x.tally('b') + ": " + row(x), "1: 2 2");
@@ -273,7 +303,8 @@ final class EdgesOfBook extends Asking {
 
     private static void alike(Edges edges) {
         edges.ofPromise(44);
-        edges.edge("How many SIGNS from p on are as those from q on, one by one, till they differ, or THE BOOK ends: how many;", () -> {
+        edges.edge("How many SIGNS from p on are as those from q on, one by one, till they differ, or THE BOOK ends: "
+            + "how many;", () -> {
             PieceBook x = open("abxabyab");
             due(x.alike(0, 3), 2);
             due(x.alike(3, 6), 2);
@@ -319,7 +350,7 @@ final class EdgesOfBook extends Asking {
         });
         edges.edge("by each: 31 times it, and the SIGN (as ints): 0; the ROW: it.", () -> {
             // 7, and six signs of 127, are above 2^31, and stay below 2^32; told by longs.
-            PieceBook x = open((char) 127 + "" + (char) 127 + (char) 127 + (char) 127 + (char) 127 + (char) 127 + "abc");
+            PieceBook x = open(("" + (char) 127).repeat(6) + "abc");
             long sum = 7;
             for (int i = 0; i < 6; i++) {
                 sum = sum * 31 + 127;
@@ -350,7 +381,8 @@ final class EdgesOfBook extends Asking {
             due(new PieceBook().sum(0, 1), -2);
         });
         edges.edge("NONE: n, p below 0.", () -> {
-            int[][] none = {{0, -1}, {-1, 0}, {-1, 99}, {99, -1}, {LEAST, 0}, {0, LEAST}, {LEAST, LEAST}, {LEAST, MOST}, {MOST, LEAST}};
+            int[][] none = {{0, -1}, {-1, 0}, {-1, 99}, {99, -1}, {LEAST, 0}, {0, LEAST}, {LEAST, LEAST},
+                {LEAST, MOST}, {MOST, LEAST}};
             for (int[] pn : none) {
                 Learnt.dueNoTrace(x -> x.sum(pn[0], pn[1]), -1);
             }

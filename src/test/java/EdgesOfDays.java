@@ -90,6 +90,10 @@ final class EdgesOfDays extends Asking {
             due(x.count(1), 2);
             due(x.count(4), 1);
             due(pieces(x), "1.0+3");
+            // The letter may be the last sign that a text can have.
+            PieceBook most = new PieceBook();
+            due(text(most, "hh" + "i0000a".repeat(12) + "i0000z").day(), 15);
+            due(shown(most), "z" + "a".repeat(12));
             // Digits tell a place in full.
             PieceBook far = nearlyFull();
             due(text(far, "i2960bi1234ci0000d").day(), 3);
@@ -130,26 +134,26 @@ final class EdgesOfDays extends Asking {
     }
 
     private static void refusedActs(Edges edges) {
-        edges.edge("they are done one by one, till one is refused (it answers below 0; u, r: if there is nothing): how many were "
-            + "done;", () -> {
-                String[] refused = {"i0004a", "i9999a", "d000400", "d000004", "d000301", "d999901", "l0000000000",
-                    "l0000040000", "l0000010004", "m0000000000", "m0000040000", "m0000010004", "m0000030001", "r"};
-                for (String act : refused) {
-                    PieceBook x = open("ab");
-                    due(text(x, "hi0002c" + act + "i0000z").day(), 2);
-                    due(row(x), "1 3");
-                    due(shown(x), "abc");
-                    due(x.count(4), 1);
-                }
-                PieceBook nothing = open("ab");
-                due(text(nothing, "ui0000z").day(), 0);
-                due(shown(nothing), "ab");
-                due(text(full(), "i0000a").day(), 0);
-                due(text(filled(6000), "i0000a").day(), 0);
-                due(text(full(), "l0000010000").day(), 0);
-                // heals() is never refused; a moves() that ends where it began is not, either.
-                due(text(nothing, "hhm0000010000").day(), 3);
-            });
+        edges.edge("they are done one by one, till one is refused (it answers below 0; u, r: if there is nothing): "
+            + "how many were done;", () -> {
+            String[] refused = {"i0004a", "i9999a", "d000400", "d000004", "d000301", "d999901", "l0000000000",
+                "l0000040000", "l0000010004", "m0000000000", "m0000040000", "m0000010004", "m0000030001", "r"};
+            for (String act : refused) {
+                PieceBook x = open("ab");
+                due(text(x, "hi0002c" + act + "i0000z").day(), 2);
+                due(row(x), "1 3");
+                due(shown(x), "abc");
+                due(x.count(4), 1);
+            }
+            PieceBook nothing = open("ab");
+            due(text(nothing, "ui0000z").day(), 0);
+            due(shown(nothing), "ab");
+            due(text(full(), "i0000a").day(), 0);
+            due(text(filled(6000), "i0000a").day(), 0);
+            due(text(full(), "l0000010000").day(), 0);
+            // heals() is never refused; a moves() that ends where it began is not, either.
+            due(text(nothing, "hhm0000010000").day(), 3);
+        });
         edges.edge("the ROW: 1 if one was refused, else 0; how many SIGNS THE BOOK has.", () -> {
             PieceBook x = open("ab");
             due(text(x, "i0000c").day(), 1);
@@ -181,13 +185,15 @@ final class EdgesOfDays extends Asking {
     }
 
     private static void faults(Edges edges) {
-        edges.edge("-1 - p: the sign at p can't stand there (its end, if it ends too early); nothing is done then.", () -> {
+        edges.edge("-1 - p: the sign at p can't stand there "
+            + "(its end, if it ends too early); nothing is done then.", () -> {
             // Each act broken at each of its signs, ahead of it one that would be done.
             for (String act : new String[] {"i0000a", "d000001", "l0000010000", "m0000010000"}) {
                 for (int k = 0; k < act.length(); k++) {
                     int fault = 6 + k;
                     char[] others = k == 0 ? new char[] {'a', 'I', '0', ' '}
-                            : act.charAt(k) == 'a' ? new char[] {'`', '{', '.', '0', 'A'} : new char[] {'/', ':', 'a', ' '};
+                            : act.charAt(k) == 'a' ? new char[] {'`', '{', '.', '0', 'A'}
+                            : new char[] {'/', ':', 'a', ' '};
                     for (char v : others) {
                         String day = "i0000b" + act.substring(0, k) + v + act.substring(k + 1);
                         Learnt.dueNoTrace(day, x -> x.day(), -1 - fault);
@@ -211,7 +217,8 @@ final class EdgesOfDays extends Asking {
 
     private static void undo(Edges edges) {
         edges.ofPromise(17);
-        edges.edge("THE BOOK (PIECES) and MARKS are as ahead of the latest EDIT (of 30 that are kept, the latest ones;", () -> {
+        edges.edge("THE BOOK (PIECES) and MARKS are as ahead of the latest EDIT (of 30 that are kept, the latest "
+            + "ones;", () -> {
             for (int edits = 29; edits <= 32; edits++) {
                 PieceBook x = new PieceBook();
                 for (int i = 0; i < edits; i++) {
@@ -233,7 +240,8 @@ final class EdgesOfDays extends Asking {
             due(pieces(x), "0.0+6");
             due(marked(x), "0@3");
         });
-        edges.edge("of one that was done again: as ahead of that redo()): how many are left that can be undone.", () -> {
+        edges.edge("of one that was done again: as ahead of "
+            + "that redo()): how many are left that can be undone.", () -> {
             PieceBook x = new PieceBook();
             x.type(0, 'a');
             x.undo();
@@ -296,44 +304,48 @@ final class EdgesOfDays extends Asking {
 
     private static void redo(Edges edges) {
         edges.ofPromise(18);
-        edges.edge("THE BOOK and MARKS are as ahead of the latest undo() (till another EDIT comes): how many are left that can be "
-            + "done again.", () -> {
-                PieceBook x = open("ab");
-                x.takes(0, 1);
-                put(x, 1, "cd");
-                x.marks(2, 3, 0);
-                x.undo();
-                due(x.undo(), 0);
-                due(x.redo(), 1);
-                due(shown(x), "b");
-                due(x.redo(), 0);
-                due(shown(x), "bcd");
-                due(pieces(x), "0.1+1 1.0+2");
-                due(marked(x), "2@3");
-                Call[] edits = {y -> text(y, "z").inserts(0), y -> y.type(0, 'z'), y -> y.takes(0, 1), y -> y.puts(0, 1),
-                    y -> y.lays(0, 1, 0), y -> y.moves(0, 1, 0), y -> y.cuts(0), y -> y.indents(0, 0, 1),
-                    y -> text(y, "i0000a").day()};
-                for (Call edit : edits) {
-                    PieceBook y = Learnt.undone();
-                    due(y.count(5), 2);
-                    edit.of(y);
-                    due(y.count(5), 0);
-                    due(y.redo(), -1);
-                }
-                // All of 30 that were undone can be done again.
+        edges.edge("THE BOOK and MARKS are as ahead of the latest undo() (till another EDIT comes): how many are "
+            + "left that can be done again.", () -> {
+            PieceBook x = open("ab");
+            x.takes(0, 1);
+            put(x, 1, "cd");
+            x.marks(2, 3, 0);
+            x.undo();
+            due(x.undo(), 0);
+            due(x.redo(), 1);
+            due(shown(x), "b");
+            due(x.redo(), 0);
+            due(shown(x), "bcd");
+            due(pieces(x), "0.1+1 1.0+2");
+            due(marked(x), "2@3");
+            Call[] edits = {y -> text(y, "z").inserts(0), y -> y.type(0, 'z'), y -> y.takes(0, 1), y -> y.puts(0, 1),
+                y -> y.lays(0, 1, 0), y -> y.moves(0, 1, 0), y -> y.cuts(0), y -> y.indents(0, 0, 1),
+                y -> text(y, "i0000a").day()};
+            for (Call edit : edits) {
+                PieceBook y = Learnt.undone();
+                due(y.count(5), 2);
+                edit.of(y);
+                due(y.count(5), 0);
+                due(y.redo(), -1);
+            }
+            // All of 30 that were undone can be done again, each as it was, however many came ahead of them.
+            for (int n = 30; n <= 62; n += 8) {
                 PieceBook most = new PieceBook();
-                for (int i = 0; i < 31; i++) {
-                    most.type(0, 'a');
+                for (int i = 0; i < n; i++) {
+                    most.type(0, 1 + i);
                 }
-                for (int i = 0; i < 30; i++) {
-                    most.undo();
+                for (int i = 1; i <= 30; i++) {
+                    due(most.undo(), 30 - i);
+                    due(most.at(0), n == i ? -1 : n - i);
                 }
-                for (int left = 29; left >= 0; left--) {
-                    due(most.redo(), left);
+                for (int i = 29; i >= 0; i--) {
+                    due(most.redo(), i);
+                    due(most.at(0), n - i);
                 }
-                due(most.count(0), 31);
+                due(most.count(0), n);
                 due(most.count(4), 30);
-            });
+            }
+        });
         edges.edge("Refused: none.", () -> {
             due(new PieceBook().redo(), -1);
             Learnt.dueNoTrace(Learnt::typed, null, x -> x.redo(), -1);

@@ -23,21 +23,21 @@ final class EdgesOfEdits extends Asking {
 
     private static void inserts(Edges edges) {
         edges.ofPromise(6);
-        edges.edge("THE TEXT is inserted at place p (an EDIT; an empty one: nothing, no EDIT): how many SIGNS THE BOOK has.",
-            () -> {
-                PieceBook x = new PieceBook();
-                due(text(x, "b").inserts(0), 1);
-                due(text(x, "a".repeat(80)).inserts(0), 81);
-                due(x.count(4), 2);
-                due(x.count(8), 0);
-                // An empty one does not even cut a piece, nor end what can be done again.
-                Learnt.dueNoTrace("", y -> y.inserts(0), 24);
-                Learnt.dueNoTrace("", y -> y.inserts(7), 24);
-                Learnt.dueNoTrace("", y -> y.inserts(24), 24);
-                due(new PieceBook().inserts(0), 0);
-                due(full().inserts(3000), 3000);
-                due(filled(6000).inserts(0), 800);
-            });
+        edges.edge("THE TEXT is inserted at place p (an EDIT; an empty one: nothing, no EDIT): how many SIGNS THE "
+            + "BOOK has.", () -> {
+            PieceBook x = new PieceBook();
+            due(text(x, "b").inserts(0), 1);
+            due(text(x, "a".repeat(80)).inserts(0), 81);
+            due(x.count(4), 2);
+            due(x.count(8), 0);
+            // An empty one does not even cut a piece, nor end what can be done again.
+            Learnt.dueNoTrace("", y -> y.inserts(0), 24);
+            Learnt.dueNoTrace("", y -> y.inserts(7), 24);
+            Learnt.dueNoTrace("", y -> y.inserts(24), 24);
+            due(new PieceBook().inserts(0), 0);
+            due(full().inserts(3000), 3000);
+            due(filled(6000).inserts(0), 800);
+        });
         edges.edge("-1 - i: the sign at i is none (asked first).", () -> {
             Learnt.dueNoTrace(NONE_AT_2, x -> x.inserts(0), -3);
             Learnt.dueNoTrace(NONE_AT_2, x -> x.inserts(99), -3);
@@ -72,18 +72,26 @@ final class EdgesOfEdits extends Asking {
 
     private static void type(Edges edges) {
         edges.ofPromise(7);
-        edges.edge("A SIGN v (1 .. 127) is inserted at place p (an EDIT, or of the last one): how many SIGNS THE BOOK has.",
-            () -> {
-                PieceBook x = new PieceBook();
-                due(x.type(0, 1), 1);
-                due(x.type(1, 127), 2);
-                due(x.type(2, 10), 3);
-                due(x.count(4), 1);
-                due(x.count(1), 2);
-                due(pieces(x), "1.0+3");
-                due(x.undo(), 0);
-                due(x.count(0), 0);
-            });
+        edges.edge("A SIGN v (1 .. 127) is inserted at place p (an EDIT, or of the last one): how many SIGNS THE "
+            + "BOOK has.", () -> {
+            PieceBook x = new PieceBook();
+            due(x.type(0, 1), 1);
+            due(x.type(1, 127), 2);
+            due(x.type(2, 10), 3);
+            due(x.count(4), 1);
+            due(x.count(1), 2);
+            due(pieces(x), "1.0+3");
+            due(x.undo(), 0);
+            due(x.count(0), 0);
+            // What is typed is shown at once, also what belongs to the latest edit.
+            PieceBook read = open("ab\n");
+            for (int i = 0; i < 3; i++) {
+                due(read.type(1 + i, 'x' + i), 4 + i);
+                due(read.at(1 + i), 'x' + i);
+                due(read.line(4 + i), 1);
+            }
+            due(read.count(4), 1);
+        });
         edges.edge("-2: no such place;", () -> {
             for (int p : new int[] {25, 26, MOST, -1, LEAST}) {
                 Learnt.dueNoTrace(x -> x.type(p, 'a'), -2);
@@ -272,9 +280,10 @@ final class EdgesOfEdits extends Asking {
             due(pieces(x), "0.0+1 0.2+1 1.0+2 0.1+1 0.3+2 0.5+1");
             due(x.count(3), 2);
         });
-        edges.edge("(MARKS between p and p + n, neither of these, go with them; others as by taking n SIGNS at p, then by n SIGNS "
-            + "that come at the place of the first of them then;", EdgesOfEdits::marksOfMoves);
-        edges.edge("none of it is left out, and it is an EDIT as others are, if q is p or p + n): that place.", () -> {
+        edges.edge("(MARKS between p and p + n, neither of these, go with them; others as by taking n SIGNS at p, "
+            + "then by n SIGNS that come at the place of the first of them then;", EdgesOfEdits::marksOfMoves);
+        edges.edge("none of it is left out, and it is an EDIT as "
+            + "others are, if q is p or p + n): that place.", () -> {
             for (int q : new int[] {2, 5}) {
                 PieceBook x = open("abcdefgh");
                 x.takes(7, 1);
@@ -325,7 +334,8 @@ final class EdgesOfEdits extends Asking {
     private static void movesRefused(Edges edges) {
         edges.edge("-2: there are not so many, no such place, q is between;", () -> {
             int[][] none = {{0, 25, 0}, {23, 2, 0}, {24, 1, 0}, {25, 1, 0}, {0, 1, 25}, {0, 1, MOST}, {0, MOST, 0},
-                {1, MOST, 0}, {MOST, 1, 0}, {MOST, MOST, MOST}, {3, 4, 4}, {3, 4, 5}, {3, 4, 6}, {0, 24, 1}, {0, 24, 23}};
+                {1, MOST, 0}, {MOST, 1, 0}, {MOST, MOST, MOST}, {3, 4, 4}, {3, 4, 5}, {3, 4, 6}, {0, 24, 1},
+                {0, 24, 23}};
             for (int[] pnq : none) {
                 Learnt.dueNoTrace(x -> x.moves(pnq[0], pnq[1], pnq[2]), -2);
             }
@@ -343,32 +353,32 @@ final class EdgesOfEdits extends Asking {
 
     private static void cuts(Edges edges) {
         edges.ofPromise(12);
-        edges.edge("A LINE is taken with its BREAK (the last one with the BREAK ahead of it, if there is one; an EDIT): how many "
-            + "SIGNS were taken.", () -> {
-                PieceBook x = open("ab\n\ncd");
-                due(x.cuts(1), 1);
-                due(shown(x), "ab/cd");
-                due(x.cuts(0), 3);
-                due(shown(x), "cd");
-                due(x.cuts(0), 2);
-                due(x.count(0), 0);
-                due(x.count(4), 3);
-                PieceBook last = open("ab\n\ncd");
-                due(last.cuts(2), 3);
-                due(shown(last), "ab/");
-                due(last.cuts(1), 1);
-                due(shown(last), "ab");
-                PieceBook breaks = open("\n");
-                due(breaks.cuts(1), 1);
-                due(breaks.count(1), 1);
-                // Marks as by the taking.
-                PieceBook marked = open("ab\ncd\nef");
-                marked.marks(0, 2, 0);
-                marked.marks(1, 4, 0);
-                marked.marks(2, 6, 1);
-                due(marked.cuts(1), 3);
-                due(marked(marked), "0@2 1@3 2@3");
-            });
+        edges.edge("A LINE is taken with its BREAK (the last one with the BREAK ahead of it, if there is one; an "
+            + "EDIT): how many SIGNS were taken.", () -> {
+            PieceBook x = open("ab\n\ncd");
+            due(x.cuts(1), 1);
+            due(shown(x), "ab/cd");
+            due(x.cuts(0), 3);
+            due(shown(x), "cd");
+            due(x.cuts(0), 2);
+            due(x.count(0), 0);
+            due(x.count(4), 3);
+            PieceBook last = open("ab\n\ncd");
+            due(last.cuts(2), 3);
+            due(shown(last), "ab/");
+            due(last.cuts(1), 1);
+            due(shown(last), "ab");
+            PieceBook breaks = open("\n");
+            due(breaks.cuts(1), 1);
+            due(breaks.count(1), 1);
+            // Marks as by the taking.
+            PieceBook marked = open("ab\ncd\nef");
+            marked.marks(0, 2, 0);
+            marked.marks(1, 4, 0);
+            marked.marks(2, 6, 1);
+            due(marked.cuts(1), 3);
+            due(marked(marked), "0@2 1@3 2@3");
+        });
         edges.edge("-2: THE BOOK is empty;", () -> {
             due(new PieceBook().cuts(0), -2);
             Learnt.dueNoTrace(EdgesOfEdits::emptied, null, x -> x.cuts(0), -2);
@@ -392,41 +402,45 @@ final class EdgesOfEdits extends Asking {
 
     private static void indents(Edges edges) {
         edges.ofPromise(13);
-        edges.edge("n blanks (32; 1 .. 8) are inserted where each of LINES a .. b begins (one EDIT; each time by itself, the last "
-            + "LINE first): how many SIGNS THE BOOK has.", () -> {
-                PieceBook x = open("a\nb\nc");
-                due(x.indents(0, 2, 1), 8);
-                due(shown(x), " a/ b/ c");
-                due(pieces(x), "1.2+1 0.0+2 1.1+1 0.2+2 1.0+1 0.4+1");
-                due(x.count(4), 1);
-                due(x.indents(1, 1, 8), 16);
-                due(shown(x), " a/         b/ c");
-                due(x.undo(), 1);
-                due(x.undo(), 0);
-                due(shown(x), "a/b/c");
-                due(new PieceBook().indents(0, 0, 8), 8);
-                due(open("\n").indents(1, 1, 3), 4);
-                // By itself each: a piece that ends where the added does grows, and no other.
-                PieceBook typed = new PieceBook();
-                typeAll(typed, 0, "a\n");
-                due(typed.indents(0, 1, 2), 6);
-                due(pieces(typed), "1.4+2 1.0+4");
-                // Marks where a line begins: those that stick go on.
-                PieceBook marked = open("a\nb");
-                marked.marks(0, 0, 0);
-                marked.marks(1, 0, 1);
-                marked.marks(2, 2, 0);
-                marked.marks(3, 2, 1);
-                marked.marks(4, 3, 0);
-                marked.indents(0, 1, 2);
-                due(marked(marked), "0@0 1@2 2@4 3@6 4@7");
-            });
+        edges.edge("n blanks (32; 1 .. 8) are inserted where each of LINES a .. b begins (one EDIT; each time by "
+            + "itself, the last LINE first): how many SIGNS THE BOOK has.", () -> {
+            PieceBook x = open("a\nb\nc");
+            due(x.indents(0, 2, 1), 8);
+            due(shown(x), " a/ b/ c");
+            due(pieces(x), "1.2+1 0.0+2 1.1+1 0.2+2 1.0+1 0.4+1");
+            due(x.count(4), 1);
+            due(x.indents(1, 1, 8), 16);
+            due(shown(x), " a/         b/ c");
+            due(x.undo(), 1);
+            due(x.undo(), 0);
+            due(shown(x), "a/b/c");
+            due(new PieceBook().indents(0, 0, 8), 8);
+            due(open("\n").indents(1, 1, 3), 4);
+            PieceBook empties = open("\n\na\n\n");
+            due(empties.indents(0, 4, 1), 10);
+            due(shown(empties), " / / a/ / ");
+            due(pieces(empties), "1.4+1 0.0+1 1.3+1 0.1+1 1.2+1 0.2+2 1.1+1 0.4+1 1.0+1");
+            // By itself each: a piece that ends where the added does grows, and no other.
+            PieceBook typed = new PieceBook();
+            typeAll(typed, 0, "a\n");
+            due(typed.indents(0, 1, 2), 6);
+            due(pieces(typed), "1.4+2 1.0+4");
+            // Marks where a line begins: those that stick go on.
+            PieceBook marked = open("a\nb");
+            marked.marks(0, 0, 0);
+            marked.marks(1, 0, 1);
+            marked.marks(2, 2, 0);
+            marked.marks(3, 2, 1);
+            marked.marks(4, 3, 0);
+            marked.indents(0, 1, 2);
+            due(marked(marked), "0@0 1@2 2@4 3@6 4@7");
+        });
     }
 
     private static void indentsRefused(Edges edges) {
         edges.edge("-2: none such LINES, b is less than a;", () -> {
-            int[][] none = {{0, 4}, {4, 4}, {3, 4}, {-1, 0}, {-1, -1}, {1, 0}, {3, 2}, {0, MOST}, {MOST, MOST}, {LEAST, 0},
-                {LEAST, MOST}, {MOST, LEAST}, {0, -1}, {0, LEAST}};
+            int[][] none = {{0, 4}, {4, 4}, {3, 4}, {-1, 0}, {-1, -1}, {1, 0}, {3, 2}, {0, MOST}, {MOST, MOST},
+                {LEAST, 0}, {LEAST, MOST}, {MOST, LEAST}, {0, -1}, {0, LEAST}};
             for (int[] ab : none) {
                 Learnt.dueNoTrace(x -> x.indents(ab[0], ab[1], 1), -2);
                 Learnt.dueNoTrace(x -> x.indents(ab[0], ab[1], 8), -2);
@@ -463,36 +477,37 @@ final class EdgesOfEdits extends Asking {
 
     private static void heals(Edges edges) {
         edges.ofPromise(14);
-        edges.edge("PIECES of one STORE, one behind the other, of which the first one's SIGNS end where those of the second begin",
-            () -> {
-                // Of another store, though the numbers are the same.
-                PieceBook stores = open("a");
-                put(stores, 1, "xy");
-                stores.takes(1, 1);
-                due(pieces(stores), "0.0+1 1.1+1");
-                due(stores.heals(), 0);
-                PieceBook round = open("ab");
-                put(round, 0, "x");
-                round.takes(1, 1);
-                due(pieces(round), "1.0+1 0.1+1");
-                due(round.heals(), 0);
-                PieceBook whole = openTimes("a".repeat(80), 20);
-                put(whole, 1600, "b");
-                due(whole.heals(), 0);
-                // One behind the other, but the wrong way round; with a sign between; over one another.
-                PieceBook x = open("abcdef");
-                x.moves(0, 3, 6);
-                due(pieces(x), "0.3+3 0.0+3");
-                due(x.heals(), 0);
-                PieceBook gap = open("abc");
-                gap.takes(1, 1);
-                due(gap.heals(), 0);
-                PieceBook over = open("abc");
-                over.lays(1, 2, 2);
-                due(pieces(over), "0.0+2 0.1+2 0.2+1");
-                due(over.heals(), 0);
-            });
-        edges.edge("are joined, as long as there are such (an EDIT, if there were): how many fewer PIECES there are.", () -> {
+        edges.edge("PIECES of one STORE, one behind the other, of which the first one's SIGNS end where those of the "
+            + "second begin", () -> {
+            // Of another store, though the numbers are the same.
+            PieceBook stores = open("a");
+            put(stores, 1, "xy");
+            stores.takes(1, 1);
+            due(pieces(stores), "0.0+1 1.1+1");
+            due(stores.heals(), 0);
+            PieceBook round = open("ab");
+            put(round, 0, "x");
+            round.takes(1, 1);
+            due(pieces(round), "1.0+1 0.1+1");
+            due(round.heals(), 0);
+            PieceBook whole = openTimes("a".repeat(80), 20);
+            put(whole, 1600, "b");
+            due(whole.heals(), 0);
+            // One behind the other, but the wrong way round; with a sign between; over one another.
+            PieceBook x = open("abcdef");
+            x.moves(0, 3, 6);
+            due(pieces(x), "0.3+3 0.0+3");
+            due(x.heals(), 0);
+            PieceBook gap = open("abc");
+            gap.takes(1, 1);
+            due(gap.heals(), 0);
+            PieceBook over = open("abc");
+            over.lays(1, 2, 2);
+            due(pieces(over), "0.0+2 0.1+2 0.2+1");
+            due(over.heals(), 0);
+        });
+        edges.edge("are joined, as long as there are such (an "
+            + "EDIT, if there were): how many fewer PIECES there are.", () -> {
             Learnt.dueNoTrace(x -> x.heals(), 0);
             due(new PieceBook().heals(), 0);
             PieceBook x = open("abcdef");
@@ -510,6 +525,15 @@ final class EdgesOfEdits extends Asking {
             due(x.count(2), 6);
             due(x.heals(), 5);
             due(x.count(5), 0);
+            // What comes behind those that are joined stays as it is, and is joined, too, where it can be.
+            PieceBook some = open("abcdef");
+            some.moves(1, 1, 1);
+            put(some, 4, "xy");
+            some.moves(7, 1, 7);
+            due(pieces(some), "0.0+1 0.1+1 0.2+2 1.0+2 0.4+1 0.5+1");
+            due(some.heals(), 3);
+            due(pieces(some), "0.0+4 1.0+2 0.4+2");
+            due(shown(some), "abcdxyef");
         });
     }
 }

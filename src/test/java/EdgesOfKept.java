@@ -19,49 +19,49 @@ final class EdgesOfKept extends Asking {
 
     private static void differs(Edges edges) {
         edges.ofPromise(46);
-        edges.edge("How THE BOOK differs from what it was k EDITS ago (0 .. as many as can be undone): how many SIGNS at its beginning are as "
-            + "they were;", () -> {
-                PieceBook x = open("abc");
-                due(x.differs(0) + ": " + row(x), "3: 0 0");
-                due(x.differs(1), -1);
-                for (int i = 0; i < 31; i++) {
-                    x.type(0, 'x');
-                }
-                due(x.differs(30), 4 - 3);
-                due(row(x), "30 0");
-                due(x.differs(31), -1);
-                x.undo();
-                due(x.differs(30), -1);
-                due(x.differs(29) + ": " + row(x), "1: 29 0");
-                x.keep(0);
-                x.again(0);
-                due(x.differs(0) + ": " + row(x), "33: 0 0");
-                due(x.differs(1), -1);
-                // What marks did is no matter; nor what was done again.
-                PieceBook y = open("ab");
-                y.takes(1, 1);
-                y.undo();
-                y.redo();
-                due(y.differs(1) + ": " + row(y), "1: 0 1");
-                due(new PieceBook().differs(0), 0);
-            });
-        edges.edge("the ROW: how many behind these are other ones now, how many were then in their place (SIGNS at the end that are as they were, "
-            + "as many as there are behind those at the beginning, aside).", () -> {
-                String[] now = {"abXcd", "ab", "aXd", "xyz", "abcdabcd", "", "abcd", "abccd", "abd"};
-                String[] due = {"2: 1 0", "2: 0 2", "1: 1 2", "0: 3 4", "4: 4 0", "0: 0 4", "4: 0 0", "3: 1 0", "2: 0 1"};
-                for (int i = 0; i < now.length; i++) {
-                    PieceBook x = open("abcd");
-                    text(x, now[i]).puts(0, 4);
-                    due(x.differs(1) + ": " + row(x), due[i]);
-                }
-                // The end counts only behind the beginning: signs alike are not counted twice.
-                PieceBook more = open("aaa");
-                more.lays(0, 1, 0);
-                due(more.differs(1) + ": " + row(more), "3: 1 0");
-                PieceBook fewer = open("aaa");
-                fewer.takes(0, 2);
-                due(fewer.differs(1) + ": " + row(fewer), "1: 0 2");
-            });
+        edges.edge("How THE BOOK differs from what it was k EDITS ago (0 .. as many as can be undone): how many "
+            + "SIGNS at its beginning are as they were;", () -> {
+            PieceBook x = open("abc");
+            due(x.differs(0) + ": " + row(x), "3: 0 0");
+            due(x.differs(1), -1);
+            for (int i = 0; i < 31; i++) {
+                x.type(0, 'x');
+            }
+            due(x.differs(30), 4 - 3);
+            due(row(x), "30 0");
+            due(x.differs(31), -1);
+            x.undo();
+            due(x.differs(30), -1);
+            due(x.differs(29) + ": " + row(x), "1: 29 0");
+            x.keep(0);
+            x.again(0);
+            due(x.differs(0) + ": " + row(x), "33: 0 0");
+            due(x.differs(1), -1);
+            // What marks did is no matter; nor what was done again.
+            PieceBook y = open("ab");
+            y.takes(1, 1);
+            y.undo();
+            y.redo();
+            due(y.differs(1) + ": " + row(y), "1: 0 1");
+            due(new PieceBook().differs(0), 0);
+        });
+        edges.edge("the ROW: how many behind these are other ones now, how many were then in their place (SIGNS at "
+            + "the end that are as they were, as many as there are behind those at the beginning, aside).", () -> {
+            String[] now = {"abXcd", "ab", "aXd", "xyz", "abcdabcd", "", "abcd", "abccd", "abd"};
+            String[] due = {"2: 1 0", "2: 0 2", "1: 1 2", "0: 3 4", "4: 4 0", "0: 0 4", "4: 0 0", "3: 1 0", "2: 0 1"};
+            for (int i = 0; i < now.length; i++) {
+                PieceBook x = open("abcd");
+                text(x, now[i]).puts(0, 4);
+                due(x.differs(1) + ": " + row(x), due[i]);
+            }
+            // The end counts only behind the beginning: signs alike are not counted twice.
+            PieceBook more = open("aaa");
+            more.lays(0, 1, 0);
+            due(more.differs(1) + ": " + row(more), "3: 1 0");
+            PieceBook fewer = open("aaa");
+            fewer.takes(0, 2);
+            due(fewer.differs(1) + ": " + row(fewer), "1: 0 2");
+        });
         edges.edge("NONE: another k.", () -> {
             for (int k : new int[] {5, 31, MOST, -1, LEAST}) {
                 Learnt.dueNoTrace(x -> x.differs(k), -1);
@@ -117,7 +117,8 @@ final class EdgesOfKept extends Asking {
                 Learnt.dueQuestion(null, x -> x.years(ofSeed, 40));
             }
         });
-        edges.edge("a DRAW of 4 tells: 0, 1: type() of a DRAW of 26 and 97 at a DRAW of as many SIGNS as there are, and 1 more;", () -> {
+        edges.edge("a DRAW of 4 tells: 0, 1: type() of a DRAW of 26 and 97 at a DRAW of as many SIGNS as there are, "
+            + "and 1 more;", () -> {
             // Of an empty book each place drawn is 0: the answer tells the letter. Of a book of one sign: two places.
             for (int seed = 0; seed < 40; seed++) {
                 int[] r = {seed};
@@ -132,7 +133,8 @@ final class EdgesOfKept extends Asking {
                 due(yearsOf(open("\n"), seed, 1), "2: " + ((7 * 31 + first) * 31 + second) + " 2 1");
             }
         });
-        edges.edge("2: takes() of 1 at a DRAW of as many SIGNS as there are; 3: lays() of 1 from a DRAW of as many as there are, at 0", () -> {
+        edges.edge("2: takes() of 1 at a DRAW of as many SIGNS as there are; 3: lays() of 1 from a DRAW of as many "
+            + "as there are, at 0", () -> {
             int taken = seedOf(2);
             int laid = seedOf(3);
             due(yearsOf(open("a"), taken, 1), "0: 7 0 0");
@@ -175,33 +177,33 @@ final class EdgesOfKept extends Asking {
     }
 
     private static void yearsRefused(Edges edges) {
-        edges.edge("what is refused is not done): how many SIGNS THE BOOK would have; the ROW: the sum() of all of it then, how many PIECES, how "
-            + "many SIGNS THE ADDED then.", () -> {
-                int typed = seedOf(0);
-                int taken = seedOf(2);
-                int laid = seedOf(3);
-                PieceBook full = full();
-                due(full.years(typed, 1), 3000);
-                due(full.row(1) + " " + full.row(2), "2 0");
-                due(full.years(laid, 1), 3000);
-                due(full.row(1) + " " + full.row(2), "2 0");
-                due(full.years(taken, 1), 2999);
-                PieceBook spent = filled(6000);
-                due(spent.years(typed, 1), 800);
-                due(spent.row(2), 6000);
-                due(spent.years(laid, 1), 801);
-                due(filled(5999).years(typed, 1), 801);
-                // Draws of what is refused are drawn all the same.
-                for (int seed = 0; seed < 6; seed++) {
-                    due(yearsOf(full(), seed, 40), yearsByHand(full(), seed, 40));
-                    due(yearsOf(filled(5998), seed, 40), yearsByHand(filled(5998), seed, 40));
-                    due(yearsOf(fullAndSpent(), seed, 40), yearsByHand(fullAndSpent(), seed, 40));
-                }
-                // What was added for it is not: the next time it begins where it did.
-                PieceBook twice = filled(5990);
-                due(yearsOf(twice, 3, 40), yearsOf(twice, 3, 40));
-                due(twice.count(3), 5990);
-            });
+        edges.edge("what is refused is not done): how many SIGNS THE BOOK would have; the ROW: the sum() of all of "
+            + "it then, how many PIECES, how many SIGNS THE ADDED then.", () -> {
+            int typed = seedOf(0);
+            int taken = seedOf(2);
+            int laid = seedOf(3);
+            PieceBook full = full();
+            due(full.years(typed, 1), 3000);
+            due(full.row(1) + " " + full.row(2), "2 0");
+            due(full.years(laid, 1), 3000);
+            due(full.row(1) + " " + full.row(2), "2 0");
+            due(full.years(taken, 1), 2999);
+            PieceBook spent = filled(6000);
+            due(spent.years(typed, 1), 800);
+            due(spent.row(2), 6000);
+            due(spent.years(laid, 1), 801);
+            due(filled(5999).years(typed, 1), 801);
+            // Draws of what is refused are drawn all the same.
+            for (int seed = 0; seed < 6; seed++) {
+                due(yearsOf(full(), seed, 40), yearsByHand(full(), seed, 40));
+                due(yearsOf(filled(5998), seed, 40), yearsByHand(filled(5998), seed, 40));
+                due(yearsOf(fullAndSpent(), seed, 40), yearsByHand(fullAndSpent(), seed, 40));
+            }
+            // What was added for it is not: the next time it begins where it did.
+            PieceBook twice = filled(5990);
+            due(yearsOf(twice, 3, 40), yearsOf(twice, 3, 40));
+            due(twice.count(3), 5990);
+        });
         edges.edge("NONE: another n.", () -> {
             for (int n : new int[] {0, -1, 41, MOST, LEAST}) {
                 Learnt.dueNoTrace(x -> x.years(1, n), -1);
@@ -210,7 +212,8 @@ final class EdgesOfKept extends Asking {
     }
 
     private static void draws(Edges edges) {
-        edges.edge("A DRAW of n: R = R times 1103515245 + 12345 (as ints; R is seed at first), (R without sign, by 65536) % n.", () -> {
+        edges.edge("A DRAW of n: R = R times 1103515245 + 12345 (as ints; R is seed at first), (R without sign, by "
+            + "65536) % n.", () -> {
             for (int seed : new int[] {0, 1, -1, 2, 65536, MOST, LEAST, LEAST + 1, 123456789}) {
                 due(yearsOf(open("abcdefghij"), seed, 40), yearsByHand(open("abcdefghij"), seed, 40));
             }
@@ -260,7 +263,8 @@ final class EdgesOfKept extends Asking {
 
     private static void again(Edges edges) {
         edges.ofPromise(49);
-        edges.edge("THE BOOK and MARKS are as they were kept under a number; no EDITS can be undone or done again.", () -> {
+        edges.edge("THE BOOK and MARKS are as they were kept under "
+            + "a number; no EDITS can be undone or done again.", () -> {
             PieceBook x = Learnt.undone();
             due(x.count(4), 2);
             due(x.count(5), 2);
@@ -303,23 +307,24 @@ final class EdgesOfKept extends Asking {
 
     private static void count(Edges edges) {
         edges.ofPromise(50);
-        edges.edge("What 0: SIGNS of THE BOOK, 1: LINES, 2: PIECES, 3: SIGNS of THE ADDED, 4: EDITS that can be undone, 5: that can be done "
-            + "again, 6: MARKS that are set (bits), 7: numbers of the ROW, 8: signs of THE TEXT.", () -> {
-                PieceBook x = Learnt.undone();
-                int[] due = {24, 4, 5, 8, 2, 2, 39, 5, 4};
-                for (int what = 0; what < 9; what++) {
-                    due(x.count(what), due[what]);
-                }
-                PieceBook most = fullAndSpent();
-                for (int i = 0; i < 8; i++) {
-                    most.marks(i, 3000, 0);
-                }
-                text(most, "a".repeat(80));
-                int[] dueMost = {3000, 3001, 4, 6000, 2, 0, 255, 0, 80};
-                for (int what = 0; what < 9; what++) {
-                    due(most.count(what), dueMost[what]);
-                }
-            });
+        edges.edge("What 0: SIGNS of THE BOOK, 1: LINES, 2: PIECES, 3: SIGNS of THE ADDED, 4: EDITS that can be "
+            + "undone, 5: that can be done again, 6: MARKS that are set (bits), 7: numbers of the ROW, 8: signs of "
+            + "THE TEXT.", () -> {
+            PieceBook x = Learnt.undone();
+            int[] due = {24, 4, 5, 8, 2, 2, 39, 5, 4};
+            for (int what = 0; what < 9; what++) {
+                due(x.count(what), due[what]);
+            }
+            PieceBook most = fullAndSpent();
+            for (int i = 0; i < 8; i++) {
+                most.marks(i, 3000 * (i % 2), 0);
+            }
+            text(most, "a".repeat(80));
+            int[] dueMost = {3000, 3001, 4, 6000, 2, 0, 255, 0, 80};
+            for (int what = 0; what < 9; what++) {
+                due(most.count(what), dueMost[what]);
+            }
+        });
         edges.edge("-100 for another what.", () -> {
             for (int what : new int[] {9, 10, MOST, -1, LEAST}) {
                 Learnt.dueNoTrace(x -> x.count(what), -100);

@@ -31,7 +31,8 @@ final class EdgesOfPlaces extends Asking {
             due(full().at(3000), -1);
         });
         edges.ofPromise(20);
-        edges.edge("SIGNS from p on, n (1 .. 16) of them, or fewer, if THE BOOK ends: how many; the ROW: they.", () -> {
+        edges.edge("SIGNS from p on, n (1 .. 16) of them, "
+            + "or fewer, if THE BOOK ends: how many; the ROW: they.", () -> {
             PieceBook x = open("abcdefghijklmnopq");
             due(x.reads(0, 1), 1);
             due(row(x), "97");
@@ -60,7 +61,8 @@ final class EdgesOfPlaces extends Asking {
 
     private static void lines(Edges edges) {
         edges.ofPromise(21);
-        edges.edge("The LINE of a place: it; the ROW: how many SIGNS of it are ahead of the place. NONE: no such place.", () -> {
+        edges.edge("The LINE of a place: it; the ROW: how many SIGNS of it are ahead of the place. NONE: no such "
+            + "place.", () -> {
             PieceBook x = open("ab\n\n");
             int[] lines = {0, 0, 0, 1, 2};
             int[] ahead = {0, 1, 2, 0, 0};
@@ -68,6 +70,9 @@ final class EdgesOfPlaces extends Asking {
                 due(x.line(p), lines[p]);
                 due(row(x), Integer.toString(ahead[p]));
             }
+            PieceBook breakFirst = open("\na");
+            due(breakFirst.line(0) + ": " + row(breakFirst), "0: 0");
+            due(breakFirst.line(1) + ": " + row(breakFirst), "1: 0");
             due(new PieceBook().line(0), 0);
             due(fullAndSpent().line(3000), 3000);
             for (int p : new int[] {25, MOST, -1, LEAST}) {
@@ -75,7 +80,8 @@ final class EdgesOfPlaces extends Asking {
             }
         });
         edges.ofPromise(22);
-        edges.edge("The place where a LINE begins: it; the ROW: how many SIGNS it has, without its BREAK. NONE: none such.", () -> {
+        edges.edge("The place where a LINE begins: it; the ROW: how many SIGNS it has, without its BREAK. NONE: none "
+            + "such.", () -> {
             PieceBook x = open("\nab\n");
             due(x.starts(0), 0);
             due(row(x), "0");
@@ -91,17 +97,17 @@ final class EdgesOfPlaces extends Asking {
             }
         });
         edges.ofPromise(23);
-        edges.edge("The place in a LINE behind so many of its SIGNS (at most all but its BREAK): it; the ROW: how many these are.",
-            () -> {
-                PieceBook x = open("ab\n\ncd");
-                int[][] due = {{0, 0, 0, 0}, {0, 1, 1, 1}, {0, 2, 2, 2}, {0, 3, 2, 2}, {0, MOST, 2, 2}, {1, 0, 3, 0}, {1, 1, 3, 0},
-                    {2, 1, 5, 1}, {2, 2, 6, 2}, {2, 3, 6, 2}, {2, MOST, 6, 2}};
-                for (int[] d : due) {
-                    due(x.place(d[0], d[1]), d[2]);
-                    due(row(x), Integer.toString(d[3]));
-                }
-                due(new PieceBook().place(0, 5), 0);
-            });
+        edges.edge("The place in a LINE behind so many of its SIGNS (at most all but its BREAK): it; the ROW: how "
+            + "many these are.", () -> {
+            PieceBook x = open("ab\n\ncd");
+            int[][] due = {{0, 0, 0, 0}, {0, 1, 1, 1}, {0, 2, 2, 2}, {0, 3, 2, 2}, {0, MOST, 2, 2}, {1, 0, 3, 0},
+                {1, 1, 3, 0}, {2, 1, 5, 1}, {2, 2, 6, 2}, {2, 3, 6, 2}, {2, MOST, 6, 2}};
+            for (int[] d : due) {
+                due(x.place(d[0], d[1]), d[2]);
+                due(row(x), Integer.toString(d[3]));
+            }
+            due(new PieceBook().place(0, 5), 0);
+        });
         edges.edge("NONE: no such LINE, many below 0.", () -> {
             for (int line : new int[] {4, MOST, -1, LEAST}) {
                 Learnt.dueNoTrace(x -> x.place(line, 0), -1);
@@ -179,16 +185,28 @@ final class EdgesOfPlaces extends Asking {
 
     private static void piece(Edges edges) {
         edges.ofPromise(27);
-        edges.edge("Of PIECE i, what 0: STORE, 1: START, 2: LENGTH, 3: BREAKS that it shows, 4: the place in THE BOOK where it begins.",
-            () -> {
-                PieceBook x = open("a\nb\nc");
-                put(x, 4, "x\n\n");
-                x.takes(4, 1);
-                String[] due = {"0 0 4 2 0", "1 1 2 2 4", "0 4 1 0 6"};
-                for (int i = 0; i < 3; i++) {
-                    due(x.piece(i, 0) + " " + x.piece(i, 1) + " " + x.piece(i, 2) + " " + x.piece(i, 3) + " " + x.piece(i, 4), due[i]);
+        edges.edge("Of PIECE i, what 0: STORE, 1: START, 2: LENGTH, 3: BREAKS that it shows, 4: the place in THE "
+            + "BOOK where it begins.", () -> {
+            PieceBook x = open("a\nb\nc");
+            put(x, 4, "x\n\n");
+            x.takes(4, 1);
+            String[] due = {"0 0 4 2 0", "1 1 2 2 4", "0 4 1 0 6"};
+            for (int i = 0; i < 3; i++) {
+                StringBuilder b = new StringBuilder();
+                for (int what = 0; what < 5; what++) {
+                    b.append(what == 0 ? "" : " ").append(x.piece(i, what));
                 }
-            });
+                due(b.toString(), due[i]);
+            }
+            // A break that stands in the store right behind a piece is not of it.
+            PieceBook y = open("a\nb");
+            y.takes(1, 1);
+            due(y.piece(0, 3), 0);
+            due(y.piece(1, 3), 0);
+            put(y, 0, "c\n");
+            y.takes(1, 1);
+            due(y.piece(0, 3), 0);
+        });
         edges.edge("NoSuchElementException: none such, another what.", () -> {
             PieceBook x = Learnt.typed();
             int pieces = x.count(2);
@@ -204,49 +222,49 @@ final class EdgesOfPlaces extends Asking {
             due(Learnt.look(x), Learnt.look(Learnt.typed()));
         });
         edges.ofPromise(28);
-        edges.edge("The PIECE that shows SIGN p: it; the ROW: which of its SIGNS that is (from 0 on), of which STORE, which of that "
-            + "one's. NONE: no such SIGN.", () -> {
-                PieceBook x = open("abcd");
-                put(x, 2, "xy");
-                String[] due = {"0: 0 0 0", "0: 1 0 1", "1: 0 1 0", "1: 1 1 1", "2: 0 0 2", "2: 1 0 3"};
-                for (int p = 0; p < 6; p++) {
-                    due(x.shows(p) + ": " + row(x), due[p]);
-                }
-                for (int p : new int[] {6, 7, MOST, -1, LEAST}) {
-                    due(x.shows(p), -1);
-                    due(row(x), "1 0 3");
-                }
-                due(new PieceBook().shows(0), -1);
-                PieceBook most = full();
-                due(most.shows(2999), 1);
-                due(row(most), "1599 0 1599");
-            });
+        edges.edge("The PIECE that shows SIGN p: it; the ROW: which of its SIGNS that is (from 0 on), of which "
+            + "STORE, which of that one's. NONE: no such SIGN.", () -> {
+            PieceBook x = open("abcd");
+            put(x, 2, "xy");
+            String[] due = {"0: 0 0 0", "0: 1 0 1", "1: 0 1 0", "1: 1 1 1", "2: 0 0 2", "2: 1 0 3"};
+            for (int p = 0; p < 6; p++) {
+                due(x.shows(p) + ": " + row(x), due[p]);
+            }
+            for (int p : new int[] {6, 7, MOST, -1, LEAST}) {
+                due(x.shows(p), -1);
+                due(row(x), "1 0 3");
+            }
+            due(new PieceBook().shows(0), -1);
+            PieceBook most = full();
+            due(most.shows(2999), 1);
+            due(row(most), "1599 0 1599");
+        });
     }
 
     private static void from(Edges edges) {
         edges.ofPromise(29);
-        edges.edge("How many PIECES show SIGN k of STORE s: how many; the ROW: the places where it is shown, the first 12 alone.",
-            () -> {
-                PieceBook x = open("ab");
-                for (int shown = 1; shown <= 14; shown++) {
-                    due(x.from(0, 1), shown);
-                    due(x.count(7), Math.min(shown, 12));
-                    due(x.row(0), 1);
-                    due(x.row(Math.min(shown, 12) - 1), Math.min(shown, 12));
-                    x.lays(1, 1, 1);
-                }
-                x.takes(0, 1);
-                due(x.from(0, 0), 0);
-                due(x.count(7), 0);
-                due(x.from(0, 1), 15);
-                due(row(x), "0 1 2 3 4 5 6 7 8 9 10 11");
-            });
+        edges.edge("How many PIECES show SIGN k of STORE s: how many; the ROW: the places where it is shown, the "
+            + "first 12 alone.", () -> {
+            PieceBook x = open("ab");
+            for (int shown = 1; shown <= 14; shown++) {
+                due(x.from(0, 1), shown);
+                due(x.count(7), Math.min(shown, 12));
+                due(x.row(0), 1);
+                due(x.row(Math.min(shown, 12) - 1), Math.min(shown, 12));
+                x.lays(1, 1, 1);
+            }
+            x.takes(0, 1);
+            due(x.from(0, 0), 0);
+            due(x.count(7), 0);
+            due(x.from(0, 1), 15);
+            due(row(x), "0 1 2 3 4 5 6 7 8 9 10 11");
+        });
         edges.edge("NONE: no such SIGN.", () -> {
             PieceBook x = open("ab");
             put(x, 0, "xyz");
             x.from(1, 2);
-            int[][] none = {{0, 2}, {0, -1}, {0, MOST}, {0, LEAST}, {1, 3}, {1, -1}, {1, MOST}, {1, LEAST}, {2, 0}, {-1, 0},
-                {MOST, 0}, {LEAST, 0}};
+            int[][] none = {{0, 2}, {0, -1}, {0, MOST}, {0, LEAST}, {1, 3}, {1, -1}, {1, MOST}, {1, LEAST}, {2, 0},
+                {-1, 0}, {MOST, 0}, {LEAST, 0}};
             for (int[] sk : none) {
                 due(x.from(sk[0], sk[1]), -1);
                 due(row(x), "2");
@@ -269,34 +287,34 @@ final class EdgesOfPlaces extends Asking {
 
     private static void lost(Edges edges) {
         edges.ofPromise(30);
-        edges.edge("SIGNS of STORE s that no PIECE shows: how many; the ROW: the place in the STORE of the first one of them (nothing "
-            + "without).", () -> {
-                PieceBook x = open("abc");
-                x.longest();
-                due(x.lost(0), 0);
-                due(x.count(7), 0);
-                due(x.lost(1), 0);
-                due(x.count(7), 0);
-                x.takes(2, 1);
-                due(x.lost(0), 1);
-                due(row(x), "2");
-                x.takes(0, 1);
-                due(x.lost(0), 2);
-                due(row(x), "0");
-                x.takes(0, 1);
-                due(x.lost(0), 3);
-                due(row(x), "0");
-                due(filled(6000).lost(1), 6000);
-                // Shown twice, and once taken, a sign is still shown.
-                PieceBook twice = open("ab");
-                twice.lays(0, 2, 2);
-                twice.takes(0, 2);
-                due(twice.lost(0), 0);
-                PieceBook whole = openTimes("a".repeat(80), 20);
-                whole.takes(1599, 1);
-                due(whole.lost(0), 1);
-                due(row(whole), "1599");
-            });
+        edges.edge("SIGNS of STORE s that no PIECE shows: how many; the ROW: the place in the STORE of the first one "
+            + "of them (nothing without).", () -> {
+            PieceBook x = open("abc");
+            x.longest();
+            due(x.lost(0), 0);
+            due(x.count(7), 0);
+            due(x.lost(1), 0);
+            due(x.count(7), 0);
+            x.takes(2, 1);
+            due(x.lost(0), 1);
+            due(row(x), "2");
+            x.takes(0, 1);
+            due(x.lost(0), 2);
+            due(row(x), "0");
+            x.takes(0, 1);
+            due(x.lost(0), 3);
+            due(row(x), "0");
+            due(filled(6000).lost(1), 6000);
+            // Shown twice, and once taken, a sign is still shown.
+            PieceBook twice = open("ab");
+            twice.lays(0, 2, 2);
+            twice.takes(0, 2);
+            due(twice.lost(0), 0);
+            PieceBook whole = openTimes("a".repeat(80), 20);
+            whole.takes(1599, 1);
+            due(whole.lost(0), 1);
+            due(row(whole), "1599");
+        });
         edges.edge("NONE: another s.", () -> {
             for (int s : new int[] {2, 3, MOST, -1, LEAST}) {
                 Learnt.dueNoTrace(x -> x.lost(s), -1);
@@ -306,36 +324,36 @@ final class EdgesOfPlaces extends Asking {
 
     private static void healable(Edges edges) {
         edges.ofPromise(31);
-        edges.edge("How many borders between two PIECES could be healed (as heals()): how many; the ROW: the longest PIECE (of as long "
-            + "ones the first; nothing without).", () -> {
-                PieceBook x = new PieceBook();
-                x.longest();
-                due(x.healable(), 0);
-                due(x.count(7), 0);
-                PieceBook y = open("abcdef");
-                due(y.healable(), 0);
-                due(row(y), "0");
-                y.moves(2, 2, 2);
-                due(pieces(y), "0.0+2 0.2+2 0.4+2");
-                due(y.healable(), 2);
-                due(row(y), "0");
-                y.takes(0, 1);
-                due(y.healable(), 2);
-                due(row(y), "1");
-                y.moves(0, 1, 5);
-                due(pieces(y), "0.2+2 0.4+2 0.1+1");
-                due(y.healable(), 1);
-                due(row(y), "0");
-                put(y, 0, "xyz");
-                due(y.healable(), 1);
-                due(row(y), "0");
-                PieceBook whole = openTimes("a".repeat(80), 20);
-                put(whole, 1600, "b");
-                due(whole.healable(), 0);
-                due(row(whole), "0");
-                y.takes(0, 8);
-                due(y.healable(), 0);
-                due(y.count(7), 0);
-            });
+        edges.edge("How many borders between two PIECES could be healed (as heals()): how many; the ROW: the longest "
+            + "PIECE (of as long ones the first; nothing without).", () -> {
+            PieceBook x = new PieceBook();
+            x.longest();
+            due(x.healable(), 0);
+            due(x.count(7), 0);
+            PieceBook y = open("abcdef");
+            due(y.healable(), 0);
+            due(row(y), "0");
+            y.moves(2, 2, 2);
+            due(pieces(y), "0.0+2 0.2+2 0.4+2");
+            due(y.healable(), 2);
+            due(row(y), "0");
+            y.takes(0, 1);
+            due(y.healable(), 2);
+            due(row(y), "1");
+            y.moves(0, 1, 5);
+            due(pieces(y), "0.2+2 0.4+2 0.1+1");
+            due(y.healable(), 1);
+            due(row(y), "0");
+            put(y, 0, "xyz");
+            due(y.healable(), 1);
+            due(row(y), "0");
+            PieceBook whole = openTimes("a".repeat(80), 20);
+            put(whole, 1600, "b");
+            due(whole.healable(), 0);
+            due(row(whole), "0");
+            y.takes(0, 8);
+            due(y.healable(), 0);
+            due(y.count(7), 0);
+        });
     }
 }

@@ -22,18 +22,18 @@ final class EdgesOfSearch extends Asking {
 
     private static void finds(Edges edges) {
         edges.ofPromise(32);
-        edges.edge("The first place, from p on, where THE TEXT stands in THE BOOK: it; the ROW: in how many PIECES it lies there.",
-            () -> {
-                PieceBook x = threePieces();
-                due(text(x, "abc").finds(0) + ": " + row(x), "0: 1");
-                due(text(x, "abc").finds(1) + ": " + row(x), "4: 1");
-                due(text(x, "abc").finds(4) + ": " + row(x), "4: 1");
-                due(text(x, "c").finds(6) + ": " + row(x), "6: 1");
-                due(text(x, "X").finds(3) + ": " + row(x), "3: 1");
-                due(text(x, "cX").finds(0) + ": " + row(x), "2: 2");
-                due(text(x, "Xa").finds(0) + ": " + row(x), "3: 2");
-                due(text(x, "abcXabc").finds(0) + ": " + row(x), "0: 3");
-            });
+        edges.edge("The first place, from p on, where THE TEXT stands in THE BOOK: it; the ROW: in how many PIECES "
+            + "it lies there.", () -> {
+            PieceBook x = threePieces();
+            due(text(x, "abc").finds(0) + ": " + row(x), "0: 1");
+            due(text(x, "abc").finds(1) + ": " + row(x), "4: 1");
+            due(text(x, "abc").finds(4) + ": " + row(x), "4: 1");
+            due(text(x, "c").finds(6) + ": " + row(x), "6: 1");
+            due(text(x, "X").finds(3) + ": " + row(x), "3: 1");
+            due(text(x, "cX").finds(0) + ": " + row(x), "2: 2");
+            due(text(x, "Xa").finds(0) + ": " + row(x), "3: 2");
+            due(text(x, "abcXabc").finds(0) + ": " + row(x), "0: 3");
+        });
         edges.edge("-2: nowhere;", () -> {
             due(text(threePieces(), "abc").finds(5), -2);
             due(text(threePieces(), "c").finds(7), -2);
@@ -94,27 +94,28 @@ final class EdgesOfSearch extends Asking {
             due(text(full(), "a").many(), 3000);
             due(text(full(), "a".repeat(80)).many(), 2921);
         });
-        edges.edge("the ROW: at how many of them in two PIECES or more, then how many at most lie beside one another without lying over "
-            + "one another, from the first one on (each time the next one that does not).", () -> {
-                PieceBook x = open("aaaaa");
-                due(text(x, "aa").many() + ": " + row(x), "4: 0 2");
-                put(x, 2, "a");
-                due(text(x, "aa").many() + ": " + row(x), "5: 2 3");
-                due(text(x, "aaaa").many() + ": " + row(x), "3: 3 1");
-                due(text(x, "a").many() + ": " + row(x), "6: 0 6");
-                due(text(x, "b").many() + ": " + row(x), "0: 0 0");
-                PieceBook y = open("ababab aba");
-                due(text(y, "aba").many() + ": " + row(y), "3: 0 2");
-                // Those that touch do not lie over one another.
-                due(text(open("abab"), "ab").many(), 2);
-                PieceBook touching = open("abab");
-                due(text(touching, "ab").many() + ": " + row(touching), "2: 0 2");
-            });
+        edges.edge("the ROW: at how many of them in two PIECES or more, then how many at most lie beside one another "
+            + "without lying over one another, from the first one on (each time the next one that does not).", () -> {
+            PieceBook x = open("aaaaa");
+            due(text(x, "aa").many() + ": " + row(x), "4: 0 2");
+            put(x, 2, "a");
+            due(text(x, "aa").many() + ": " + row(x), "5: 2 3");
+            due(text(x, "aaaa").many() + ": " + row(x), "3: 3 1");
+            due(text(x, "a").many() + ": " + row(x), "6: 0 6");
+            due(text(x, "b").many() + ": " + row(x), "0: 0 0");
+            PieceBook y = open("ababab aba");
+            due(text(y, "aba").many() + ": " + row(y), "3: 0 2");
+            // Those that touch do not lie over one another.
+            due(text(open("abab"), "ab").many(), 2);
+            PieceBook touching = open("abab");
+            due(text(touching, "ab").many() + ": " + row(touching), "2: 0 2");
+        });
     }
 
     private static void fits(Edges edges) {
         edges.ofPromise(35);
-        edges.edge("The first place, from p on, where THE TEXT stands, ? being any SIGN but a BREAK, # a digit 0 .. 9: it; the ROW: as finds().", () -> {
+        edges.edge("The first place, from p on, where THE TEXT stands, ? being any SIGN but a BREAK, # a digit 0 .. "
+            + "9: it; the ROW: as finds().", () -> {
             PieceBook signs = open((char) 1 + "\n" + (char) 127 + "?");
             int[] due = {0, 2, 2, 3, -2};
             for (int p = 0; p <= 4; p++) {
@@ -154,7 +155,8 @@ final class EdgesOfSearch extends Asking {
 
     private static void folds(Edges edges) {
         edges.ofPromise(36);
-        edges.edge("The first place, from p on, where THE TEXT stands, letters A .. Z being as a .. z in both: it; the ROW: as finds().", () -> {
+        edges.edge("The first place, from p on, where THE TEXT stands, letters A .. Z being as a .. z in both: it; "
+            + "the ROW: as finds().", () -> {
             PieceBook x = open("AZaz");
             due(text(x, "az").folds(0), 0);
             due(text(x, "AZ").folds(1), 2);

@@ -169,30 +169,30 @@ final class EdgesOfTerms extends Asking {
             put(z, 2, "c");
             due(pieces(z), "1.0+3 1.0+2");
         });
-        edges.edge("Else a PIECE of the text comes at p; one that shows SIGNS ahead of p and behind it is cut in two there.",
-            () -> {
-                PieceBook x = open("abcd");
-                put(x, 1, "x");
-                due(pieces(x), "0.0+1 1.0+1 0.1+3");
-                put(x, 0, "y");
-                put(x, 6, "z");
-                due(pieces(x), "1.1+1 0.0+1 1.0+1 0.1+3 1.2+1");
-            });
+        edges.edge("Else a PIECE of the text comes at p; one that shows SIGNS ahead of p and behind it is cut in two "
+            + "there.", () -> {
+            PieceBook x = open("abcd");
+            put(x, 1, "x");
+            due(pieces(x), "0.0+1 1.0+1 0.1+3");
+            put(x, 0, "y");
+            put(x, 6, "z");
+            due(pieces(x), "1.1+1 0.0+1 1.0+1 0.1+3 1.2+1");
+        });
     }
 
     private static void takingAndLaying(Edges edges) {
-        edges.edge("PIECES that show nothing else are gone, others are cut (one that shows SIGNS ahead of them and behind "
-            + "them becomes two).", () -> {
-                PieceBook x = open("abcdef");
-                x.takes(2, 2);
-                due(pieces(x), "0.0+2 0.4+2");
-                x.takes(1, 2);
-                due(pieces(x), "0.0+1 0.5+1");
-                x.takes(0, 1);
-                due(pieces(x), "0.5+1");
-                x.takes(0, 1);
-                due(pieces(x), "");
-            });
+        edges.edge("PIECES that show nothing else are gone, others are cut (one that shows SIGNS ahead of them and "
+            + "behind them becomes two).", () -> {
+            PieceBook x = open("abcdef");
+            x.takes(2, 2);
+            due(pieces(x), "0.0+2 0.4+2");
+            x.takes(1, 2);
+            due(pieces(x), "0.0+1 0.5+1");
+            x.takes(0, 1);
+            due(pieces(x), "0.5+1");
+            x.takes(0, 1);
+            due(pieces(x), "");
+        });
         edges.edge("To LAY n SIGNS from p at a place q (as all is ahead of this)", () -> {
             PieceBook inside = open("abcd");
             inside.lays(0, 4, 2);
@@ -205,15 +205,15 @@ final class EdgesOfTerms extends Asking {
             behind.lays(1, 2, 3);
             due(pieces(behind), "0.0+3 0.1+2 0.3+1");
         });
-        edges.edge("PIECES by which they are shown, cut to them, come at q, too (one that shows SIGNS ahead of q and behind "
-            + "it is cut in two there).", () -> {
-                PieceBook x = open("abcd");
-                put(x, 2, "xy");
-                x.lays(1, 4, 6);
-                due(pieces(x), "0.0+2 1.0+2 0.2+2 0.1+1 1.0+2 0.2+1");
-                x.lays(2, 1, 1);
-                due(pieces(x), "0.0+1 1.0+1 0.1+1 1.0+2 0.2+2 0.1+1 1.0+2 0.2+1");
-            });
+        edges.edge("PIECES by which they are shown, cut to them, come at q, too (one that shows SIGNS ahead of q and "
+            + "behind it is cut in two there).", () -> {
+            PieceBook x = open("abcd");
+            put(x, 2, "xy");
+            x.lays(1, 4, 6);
+            due(pieces(x), "0.0+2 1.0+2 0.2+2 0.1+1 1.0+2 0.2+1");
+            x.lays(2, 1, 1);
+            due(pieces(x), "0.0+1 1.0+1 0.1+1 1.0+2 0.2+2 0.1+1 1.0+2 0.2+1");
+        });
         edges.edge("None are joined by this.", () -> {
             PieceBook x = open("abcd");
             x.lays(0, 2, 4);
@@ -224,23 +224,24 @@ final class EdgesOfTerms extends Asking {
     }
 
     private static void marksMoving(Edges edges) {
-        edges.edge("MARKS 0 .. 7: each a place 0 .. as many SIGNS as there are, or unset (at first), and STICKS (0 or 1).",
-            () -> {
-                PieceBook x = open("abc");
-                for (int i = 0; i < 8; i++) {
-                    due(x.mark(i), -2);
-                }
-                due(x.marks(0, 0, 0), 0);
-                due(x.marks(7, 3, 1), 3);
-                due(x.marks(1, 4, 0), -2);
-                due(x.marks(1, -2, 0), -2);
-                due(x.marks(8, 0, 0), -3);
-                due(x.marks(-1, 0, 0), -3);
-                due(x.marks(1, 0, 2), -3);
-                due(x.marks(1, 0, -1), -3);
-                due(marked(x), "0@0 7@3");
-            });
-        edges.edge("When n SIGNS come at p (inserted or laid), a MARK behind p goes n on, one at p if it STICKS.", () -> {
+        edges.edge("MARKS 0 .. 7: each a place 0 .. as many SIGNS as there are, or unset (at first), and STICKS (0 "
+            + "or 1).", () -> {
+            PieceBook x = open("abc");
+            for (int i = 0; i < 8; i++) {
+                due(x.mark(i), -2);
+            }
+            due(x.marks(0, 0, 0), 0);
+            due(x.marks(7, 3, 1), 3);
+            due(x.marks(1, 4, 0), -2);
+            due(x.marks(1, -2, 0), -2);
+            due(x.marks(8, 0, 0), -3);
+            due(x.marks(-1, 0, 0), -3);
+            due(x.marks(1, 0, 2), -3);
+            due(x.marks(1, 0, -1), -3);
+            due(marked(x), "0@0 7@3");
+        });
+        edges.edge("When n SIGNS come at p (inserted or laid), a MARK "
+            + "behind p goes n on, one at p if it STICKS.", () -> {
             Call[] comes = {x -> text(x, "xy").inserts(3), x -> text(x, "xy").puts(3, 0), x -> x.lays(0, 2, 3),
                 x -> x.indents(1, 1, 2)};
             for (Call call : comes) {
@@ -252,7 +253,8 @@ final class EdgesOfTerms extends Asking {
             due(typed.type(3, 'x'), 9);
             due(marked(typed), "0@0 1@2 2@3 3@4 4@5 5@5 6@9 7@9");
         });
-        edges.edge("When n are taken at p, a MARK at p + n or behind goes n back, one between p and p + n to p.", () -> {
+        edges.edge("When n are taken at p, a MARK at p + n or "
+            + "behind goes n back, one between p and p + n to p.", () -> {
             PieceBook x = open("abcdefgh");
             for (int i = 0; i < 6; i++) {
                 x.marks(i, i + 1, i % 2);
@@ -279,25 +281,26 @@ final class EdgesOfTerms extends Asking {
     }
 
     private static void edits(Edges edges) {
-        edges.edge("EDITS: calls of the second part (what is done) of which it is said are one each, if they are not refused.",
-            () -> {
-                PieceBook x = open("ab\ncd");
-                Call[] done = {y -> text(y, "x").inserts(0), y -> y.type(0, 'a'), y -> y.takes(0, 1),
-                    y -> text(y, "y").puts(0, 1), y -> y.lays(0, 1, 2), y -> y.moves(0, 1, 1), y -> y.indents(0, 1, 1),
-                    y -> y.cuts(0), y -> y.moves(1, 1, 1), y -> y.heals()};
-                for (int i = 0; i < done.length; i++) {
-                    due(bit(done[i].of(x) >= 0), 1);
-                    due(x.count(4), i + 1);
-                }
-                Call[] refused = {y -> text(y, "x").inserts(99), y -> y.type(99, 'a'), y -> y.takes(0, 99),
-                    y -> text(y, "y").puts(0, 99), y -> y.lays(0, 99, 2), y -> y.moves(0, 2, 1), y -> y.indents(0, 99, 1),
-                    y -> y.cuts(99), y -> text(y, "x").day(), y -> y.marks(0, 99, 0), y -> y.redo()};
-                for (Call call : refused) {
-                    due(bit(call.of(x) < 0), 1);
-                    due(x.count(4), done.length);
-                }
-            });
-        edges.edge("A type() belongs to the EDIT of the type() ahead of it, if its place is one behind that one's", () -> {
+        edges.edge("EDITS: calls of the second part (what is done) of which it is said are one each, if they are not "
+            + "refused.", () -> {
+            PieceBook x = open("ab\ncd");
+            Call[] done = {y -> text(y, "x").inserts(0), y -> y.type(0, 'a'), y -> y.takes(0, 1),
+                y -> text(y, "y").puts(0, 1), y -> y.lays(0, 1, 2), y -> y.moves(0, 1, 1), y -> y.indents(0, 1, 1),
+                y -> y.cuts(0), y -> y.moves(1, 1, 1), y -> y.heals()};
+            for (int i = 0; i < done.length; i++) {
+                due(bit(done[i].of(x) >= 0), 1);
+                due(x.count(4), i + 1);
+            }
+            Call[] refused = {y -> text(y, "x").inserts(99), y -> y.type(99, 'a'), y -> y.takes(0, 99),
+                y -> text(y, "y").puts(0, 99), y -> y.lays(0, 99, 2), y -> y.moves(0, 2, 1), y -> y.indents(0, 99, 1),
+                y -> y.cuts(99), y -> text(y, "x").day(), y -> y.marks(0, 99, 0), y -> y.redo()};
+            for (Call call : refused) {
+                due(bit(call.of(x) < 0), 1);
+                due(x.count(4), done.length);
+            }
+        });
+        edges.edge("A type() belongs to the EDIT of the type() ahead "
+            + "of it, if its place is one behind that one's", () -> {
             PieceBook x = open("abcd");
             int[] places = {1, 2, 2, 1, 3, 4, 0, 1, 2};
             int[] due = {1, 1, 2, 3, 4, 4, 5, 5, 5};
@@ -308,10 +311,10 @@ final class EdgesOfTerms extends Asking {
             due(x.undo(), 4);
             due(x.count(0), 10);
         });
-        edges.edge("and no other call did anything between (an EDIT, undo(), redo(), opens(), again(), and marks(), whatever "
-            + "it sets, that are not refused;", EdgesOfTerms::partedTypes);
-        edges.edge("questions, keep(), what is refused, edits that do nothing (but moves()), sign(), end() do not matter).",
-            EdgesOfTerms::joinedTypes);
+        edges.edge("and no other call did anything between (an EDIT, undo(), redo(), opens(), again(), and marks(), "
+            + "whatever it sets, that are not refused;", EdgesOfTerms::partedTypes);
+        edges.edge("questions, keep(), what is refused, edits that do nothing (but moves()), sign(), end() do not "
+            + "matter).", EdgesOfTerms::joinedTypes);
     }
 
     /** How many edits more a type() behind another is, if a call comes between. */
@@ -328,11 +331,12 @@ final class EdgesOfTerms extends Asking {
     }
 
     private static void partedTypes() {
-        Call[] parting = {x -> text(x, "b").inserts(2), x -> text(x, "b").inserts(0), x -> x.takes(3, 1), x -> x.puts(3, 1),
-            x -> text(x, "b").puts(2, 0), x -> x.lays(0, 1, 3), x -> x.moves(0, 1, 0), x -> x.moves(0, 1, 1),
-            x -> x.moves(0, 2, 4), x -> x.cuts(1), x -> x.indents(0, 0, 1), x -> healsOne(x), x -> undoOne(x), x -> undoAndRedo(x), x -> text(x, "abc").opens(1), x -> bit(x.again(1)),
-            x -> keptNow(x), x -> x.marks(0, 0, 0), x -> x.marks(0, -1, 0), x -> x.marks(3, -1, 0),
-            x -> x.marks(3, 2, 0), x -> text(x, "d000301").day(), x -> text(x, "ur").day(), x -> text(x, "m0000010000").day()};
+        Call[] parting = {x -> text(x, "b").inserts(2), x -> text(x, "b").inserts(0), x -> x.takes(3, 1),
+            x -> x.puts(3, 1), x -> text(x, "b").puts(2, 0), x -> x.lays(0, 1, 3), x -> x.moves(0, 1, 0),
+            x -> x.moves(0, 1, 1), x -> x.moves(0, 2, 4), x -> x.cuts(1), x -> x.indents(0, 0, 1), x -> healsOne(x),
+            x -> undoOne(x), x -> undoAndRedo(x), x -> text(x, "abc").opens(1), x -> bit(x.again(1)), x -> keptNow(x),
+            x -> x.marks(0, 0, 0), x -> x.marks(0, -1, 0), x -> x.marks(3, -1, 0), x -> x.marks(3, 2, 0),
+            x -> text(x, "d000301").day(), x -> text(x, "ur").day(), x -> text(x, "m0000010000").day()};
         for (int i = 0; i < parting.length; i++) {
             due("call " + i + ": " + editsMore(parting[i]), "call " + i + ": 1");
         }
@@ -363,29 +367,32 @@ final class EdgesOfTerms extends Asking {
 
     private static void joinedTypes() {
         Call[] questions = {x -> x.store(0, 0), x -> x.at(0), x -> x.reads(0, 3), x -> x.line(1), x -> x.starts(0),
-            x -> x.place(0, 1), x -> x.longest(), x -> x.mark(0), x -> x.between(0, 9), x -> x.piece(0, 0), x -> x.shows(0),
-            x -> x.from(0, 0), x -> x.lost(0), x -> x.healable(), x -> text(x, "a").finds(0), x -> text(x, "a").last(3),
-            x -> text(x, "a").many(), x -> text(x, "?").fits(0), x -> text(x, "A").folds(0), x -> x.pair(0), x -> x.nested(),
-            x -> x.before(1), x -> x.word(0), x -> x.words(), x -> x.rows(5), x -> x.tally('a'), x -> x.alike(0, 1),
-            x -> x.sum(0, 2), x -> x.differs(1), x -> x.years(5, 40), x -> x.count(0), x -> x.longest() + x.row(0)};
+            x -> x.place(0, 1), x -> x.longest(), x -> x.mark(0), x -> x.between(0, 9), x -> x.piece(0, 0),
+            x -> x.shows(0), x -> x.from(0, 0), x -> x.lost(0), x -> x.healable(), x -> text(x, "a").finds(0),
+            x -> text(x, "a").last(3), x -> text(x, "a").many(), x -> text(x, "?").fits(0),
+            x -> text(x, "A").folds(0), x -> x.pair(0), x -> x.nested(), x -> x.before(1), x -> x.word(0),
+            x -> x.words(), x -> x.rows(5), x -> x.tally('a'), x -> x.alike(0, 1), x -> x.sum(0, 2),
+            x -> x.differs(1), x -> x.years(5, 40), x -> x.count(0), x -> x.longest() + x.row(0)};
         Call[] others = {x -> bit(x.keep(0)), x -> x.sign(0x61626364), x -> bit(x.end(0)), x -> x.inserts(2),
             x -> x.puts(2, 0), x -> x.heals(), x -> x.day(), x -> text(x, "hhh").day()};
-        Call[] refused = {x -> text(x, "a" + (char) 0).opens(1), x -> text(x, "a").opens(0), x -> text(x, "a").opens(21),
-            x -> text(x, "a").inserts(99), x -> x.type(99, 'a'), x -> x.type(2, 0), x -> x.type(2, 128), x -> x.takes(0, 99),
-            x -> x.takes(0, 0), x -> text(x, "a").puts(0, 99), x -> x.lays(0, 1, 99), x -> x.lays(0, 0, 0),
-            x -> x.moves(0, 2, 1), x -> x.moves(0, 0, 0), x -> x.cuts(9), x -> x.indents(0, 9, 1), x -> x.indents(0, 0, 0),
-            x -> x.marks(8, 0, 0), x -> x.marks(0, 0, 2), x -> x.marks(0, 99, 0), x -> text(x, "x").day(),
-            x -> text(x, "d999901").day(), x -> text(x, "r").day(), x -> x.redo(), x -> bit(x.again(0)), x -> bit(x.again(3)),
-            x -> bit(x.keep(3)), x -> bit(x.end(99))};
+        Call[] refused = {x -> text(x, "a" + (char) 0).opens(1), x -> text(x, "a").opens(0),
+            x -> text(x, "a").opens(21), x -> text(x, "a").inserts(99), x -> x.type(99, 'a'), x -> x.type(2, 0),
+            x -> x.type(2, 128), x -> x.takes(0, 99), x -> x.takes(0, 0), x -> text(x, "a").puts(0, 99),
+            x -> x.lays(0, 1, 99), x -> x.lays(0, 0, 0), x -> x.moves(0, 2, 1), x -> x.moves(0, 0, 0), x -> x.cuts(9),
+            x -> x.indents(0, 9, 1), x -> x.indents(0, 0, 0), x -> x.marks(8, 0, 0), x -> x.marks(0, 0, 2),
+            x -> x.marks(0, 99, 0), x -> text(x, "x").day(), x -> text(x, "d999901").day(), x -> text(x, "r").day(),
+            x -> x.redo(), x -> bit(x.again(0)), x -> bit(x.again(3)), x -> bit(x.keep(3)), x -> bit(x.end(99))};
         for (Call[] calls : new Call[][] {questions, others, refused}) {
             for (int i = 0; i < calls.length; i++) {
-                due("call " + i + " of " + calls.length + ": " + editsMore(calls[i]), "call " + i + " of " + calls.length + ": 0");
+                String which = "call " + i + " of " + calls.length + ": ";
+                due(which + editsMore(calls[i]), which + 0);
             }
         }
     }
 
     private static void lines(Edges edges) {
-        edges.edge("LINES 0, 1, .. end with a BREAK each (that belongs to it), but the last one; there is one at least.", () -> {
+        edges.edge("LINES 0, 1, .. end with a BREAK each (that belongs to it), but the last one; there is one at "
+            + "least.", () -> {
             due(new PieceBook().count(1), 1);
             due(open("a").count(1), 1);
             due(open("\n").count(1), 2);
@@ -402,10 +409,10 @@ final class EdgesOfTerms extends Asking {
     private static void rowsAndQuestions(Edges edges) {
         edges.edge("ROW: numbers told last by a call that says so.", () -> {
             Call[] silent = {x -> x.sign(0), x -> bit(x.end(0)), x -> x.store(0, 0), x -> text(x, "z").inserts(0),
-                x -> x.type(0, 'z'), x -> x.takes(0, 1), x -> x.puts(0, 1), x -> x.lays(0, 1, 0), x -> x.moves(0, 1, 3),
-                x -> x.cuts(0), x -> x.indents(0, 0, 1), x -> x.heals(), x -> x.marks(0, 0, 0), x -> x.undo(), x -> x.redo(),
-                x -> x.at(0), x -> x.mark(0), x -> x.piece(0, 0), x -> bit(x.keep(0)), x -> bit(x.again(0)),
-                x -> text(x, "ab").opens(1), x -> x.count(0), x -> x.row(0)};
+                x -> x.type(0, 'z'), x -> x.takes(0, 1), x -> x.puts(0, 1), x -> x.lays(0, 1, 0),
+                x -> x.moves(0, 1, 3), x -> x.cuts(0), x -> x.indents(0, 0, 1), x -> x.heals(), x -> x.marks(0, 0, 0),
+                x -> x.undo(), x -> x.redo(), x -> x.at(0), x -> x.mark(0), x -> x.piece(0, 0), x -> bit(x.keep(0)),
+                x -> bit(x.again(0)), x -> text(x, "ab").opens(1), x -> x.count(0), x -> x.row(0)};
             PieceBook x = open("abcd\nef");
             due(row(x), "");
             x.reads(0, 3);
@@ -424,12 +431,14 @@ final class EdgesOfTerms extends Asking {
             due(x.between(1, 1), 1);
             due(x.between(2, 2), 128);
         });
-        edges.edge("Questions (all calls from the third part on but keep() and again(), store(), too) change nothing.", () -> {
-            Call[] questions = {x -> x.store(1, 2), x -> x.at(3), x -> x.reads(0, 16), x -> x.line(5), x -> x.starts(1),
-                x -> x.place(1, 3), x -> x.longest(), x -> x.mark(1), x -> x.between(0, 99), x -> x.piece(1, 3),
-                x -> x.shows(6), x -> x.from(0, 1), x -> x.lost(1), x -> x.healable(), x -> x.pair(2), x -> x.nested(),
-                x -> x.before(20), x -> x.word(5), x -> x.words(), x -> x.rows(4), x -> x.tally('a'), x -> x.alike(0, 19),
-                x -> x.sum(0, 9), x -> x.differs(2), x -> x.years(3, 40), x -> x.count(1), x -> x.row(1)};
+        edges.edge("Questions (all calls from the third part on "
+            + "but keep() and again(), store(), too) change nothing.", () -> {
+            Call[] questions = {x -> x.store(1, 2), x -> x.at(3), x -> x.reads(0, 16), x -> x.line(5),
+                x -> x.starts(1), x -> x.place(1, 3), x -> x.longest(), x -> x.mark(1), x -> x.between(0, 99),
+                x -> x.piece(1, 3), x -> x.shows(6), x -> x.from(0, 1), x -> x.lost(1), x -> x.healable(),
+                x -> x.pair(2), x -> x.nested(), x -> x.before(20), x -> x.word(5), x -> x.words(), x -> x.rows(4),
+                x -> x.tally('a'), x -> x.alike(0, 19), x -> x.sum(0, 9), x -> x.differs(2), x -> x.years(3, 40),
+                x -> x.count(1), x -> x.row(1)};
             for (Call call : questions) {
                 Learnt.dueQuestion(null, call);
             }
@@ -441,34 +450,34 @@ final class EdgesOfTerms extends Asking {
     }
 
     private static void refusals(Edges edges) {
-        edges.edge("Refused calls answer NONE, or false, and change nothing but THE TEXT, which a call that reads it empties "
-            + "(opens(), inserts(), puts(), day(), those of search).", () -> {
-                Call[] refused = {x -> x.type(0, 0), x -> x.takes(0, 0), x -> x.lays(0, 0, 0), x -> x.moves(0, 0, 0),
-                    x -> x.cuts(99), x -> x.indents(0, 0, 9), x -> bit(x.end(-1)) - 1, x -> bit(x.keep(3)) - 1,
-                    x -> bit(x.again(1)) - 1, x -> x.at(99), x -> x.reads(99, 1), x -> x.line(99), x -> x.starts(99),
-                    x -> x.place(99, 0), x -> x.mark(8), x -> x.between(1, 0), x -> x.shows(99), x -> x.from(2, 0),
-                    x -> x.lost(2), x -> x.pair(99), x -> x.before(99), x -> x.word(99), x -> x.rows(0), x -> x.tally(0),
-                    x -> x.alike(0, 99), x -> x.sum(0, -1), x -> x.differs(99), x -> x.years(0, 0)};
-                for (Call call : refused) {
-                    Learnt.dueNoTrace(call, -1);
-                }
-                Learnt.dueNoTrace(Learnt::typed, null, x -> x.redo(), -1);
-                String none = (char) 0 + "ab";
-                Call[] reading = {x -> x.opens(1), x -> x.inserts(0), x -> x.puts(0, 1), x -> x.day()};
-                for (Call call : reading) {
-                    Learnt.dueNoTrace(none, call, -1);
-                }
-                Call[] searches = {x -> x.finds(99), x -> x.last(99), x -> x.fits(99), x -> x.folds(99)};
-                for (Call call : searches) {
-                    Learnt.dueNoTrace("ab", call, -1);
-                }
-                Learnt.dueNoTrace("", x -> x.many(), -100);
-                PieceBook full = text(new PieceBook(), "a".repeat(77));
-                due(full.sign(0x61616161), -1);
-                due(full.count(8), 77);
-            });
-        edges.edge("NONE comes ahead of other answers below 0, if not said otherwise, of these the one that is told first",
-            EdgesOfTerms::whichAnswerFirst);
+        edges.edge("Refused calls answer NONE, or false, and change nothing but THE TEXT, which a call that reads it "
+            + "empties (opens(), inserts(), puts(), day(), those of search).", () -> {
+            Call[] refused = {x -> x.type(0, 0), x -> x.takes(0, 0), x -> x.lays(0, 0, 0), x -> x.moves(0, 0, 0),
+                x -> x.cuts(99), x -> x.indents(0, 0, 9), x -> bit(x.end(-1)) - 1, x -> bit(x.keep(3)) - 1,
+                x -> bit(x.again(1)) - 1, x -> x.at(99), x -> x.reads(99, 1), x -> x.line(99), x -> x.starts(99),
+                x -> x.place(99, 0), x -> x.mark(8), x -> x.between(1, 0), x -> x.shows(99), x -> x.from(2, 0),
+                x -> x.lost(2), x -> x.pair(99), x -> x.before(99), x -> x.word(99), x -> x.rows(0), x -> x.tally(0),
+                x -> x.alike(0, 99), x -> x.sum(0, -1), x -> x.differs(99), x -> x.years(0, 0)};
+            for (Call call : refused) {
+                Learnt.dueNoTrace(call, -1);
+            }
+            Learnt.dueNoTrace(Learnt::typed, null, x -> x.redo(), -1);
+            String none = (char) 0 + "ab";
+            Call[] reading = {x -> x.opens(1), x -> x.inserts(0), x -> x.puts(0, 1), x -> x.day()};
+            for (Call call : reading) {
+                Learnt.dueNoTrace(none, call, -1);
+            }
+            Call[] searches = {x -> x.finds(99), x -> x.last(99), x -> x.fits(99), x -> x.folds(99)};
+            for (Call call : searches) {
+                Learnt.dueNoTrace("ab", call, -1);
+            }
+            Learnt.dueNoTrace("", x -> x.many(), -100);
+            PieceBook full = text(new PieceBook(), "a".repeat(77));
+            due(full.sign(0x61616161), -1);
+            due(full.count(8), 77);
+        });
+        edges.edge("NONE comes ahead of other answers below 0, if not said otherwise, of these the one that is told "
+            + "first", EdgesOfTerms::whichAnswerFirst);
         edges.edge("the ROW stays with each answer below 0.", EdgesOfTerms::rowStays);
     }
 
@@ -515,20 +524,21 @@ final class EdgesOfTerms extends Asking {
 
     private static void rowStays() {
         String none = (char) 0 + "";
-        Call[] below = {x -> text(x, "a".repeat(80)).sign(1), x -> text(x, none).opens(1), x -> text(x, "a").opens(0), x -> text(x, none).inserts(0),
-            x -> text(x, "a").inserts(99), x -> x.type(0, 0), x -> x.type(99, 'a'), x -> x.takes(0, 0), x -> x.takes(0, 99),
-            x -> text(x, none).puts(0, 0), x -> x.puts(0, 99), x -> x.lays(0, 0, 0), x -> x.lays(0, 99, 0),
-            x -> x.moves(0, 0, 0), x -> x.moves(0, 99, 0), x -> x.cuts(99), x -> x.indents(0, 0, 0), x -> x.indents(0, 99, 1),
-            x -> x.marks(8, 0, 0), x -> x.marks(0, 99, 0), x -> x.marks(0, -1, 0), x -> text(x, "hx").day(),
-            x -> x.undo(), x -> x.redo(), x -> x.at(99), x -> x.reads(99, 1), x -> x.reads(0, 17), x -> x.line(99),
-            x -> x.starts(99), x -> x.place(99, 0), x -> x.place(0, -1), x -> x.mark(8), x -> x.mark(0), x -> x.between(1, 0),
+        Call[] below = {x -> text(x, "a".repeat(80)).sign(1), x -> text(x, none).opens(1), x -> text(x, "a").opens(0),
+            x -> text(x, none).inserts(0), x -> text(x, "a").inserts(99), x -> x.type(0, 0), x -> x.type(99, 'a'),
+            x -> x.takes(0, 0), x -> x.takes(0, 99), x -> text(x, none).puts(0, 0), x -> x.puts(0, 99),
+            x -> x.lays(0, 0, 0), x -> x.lays(0, 99, 0), x -> x.moves(0, 0, 0), x -> x.moves(0, 99, 0),
+            x -> x.cuts(99), x -> x.indents(0, 0, 0), x -> x.indents(0, 99, 1), x -> x.marks(8, 0, 0),
+            x -> x.marks(0, 99, 0), x -> x.marks(0, -1, 0), x -> text(x, "hx").day(), x -> x.undo(), x -> x.redo(),
+            x -> x.at(99), x -> x.reads(99, 1), x -> x.reads(0, 17), x -> x.line(99), x -> x.starts(99),
+            x -> x.place(99, 0), x -> x.place(0, -1), x -> x.mark(8), x -> x.mark(0), x -> x.between(1, 0),
             x -> x.shows(99), x -> x.from(0, 99), x -> x.from(2, 0), x -> x.lost(2), x -> text(x, "zz").finds(0),
             x -> text(x, "a").finds(99), x -> x.finds(0), x -> text(x, "zz").last(0), x -> text(x, "a").last(99),
             x -> x.last(0), x -> x.many(), x -> text(x, "zz").fits(0), x -> text(x, "a").fits(99), x -> x.fits(0),
-            x -> text(x, "zz").folds(0), x -> text(x, "a").folds(99), x -> x.folds(0), x -> x.pair(99), x -> x.pair(0),
-            x -> x.pair(2), x -> nestedOfNone(x), x -> x.before(99), x -> x.word(99), x -> x.word(3), x -> x.rows(0),
-            x -> x.rows(81), x -> x.tally(0), x -> x.alike(0, 99), x -> x.sum(-1, 0), x -> x.sum(0, 99), x -> x.differs(99),
-            x -> x.years(1, 0), x -> x.years(1, 41), x -> x.count(9)};
+            x -> text(x, "zz").folds(0), x -> text(x, "a").folds(99), x -> x.folds(0), x -> x.pair(99),
+            x -> x.pair(0), x -> x.pair(2), x -> nestedOfNone(x), x -> x.before(99), x -> x.word(99), x -> x.word(3),
+            x -> x.rows(0), x -> x.rows(81), x -> x.tally(0), x -> x.alike(0, 99), x -> x.sum(-1, 0),
+            x -> x.sum(0, 99), x -> x.differs(99), x -> x.years(1, 0), x -> x.years(1, 41), x -> x.count(9)};
         for (int i = 0; i < below.length; i++) {
             PieceBook x = open("ab(\n,");
             x.reads(0, 4);
@@ -552,9 +562,9 @@ final class EdgesOfTerms extends Asking {
             }
         });
         edges.edge("-100: an empty one, ahead of all;", () -> {
-            Call[] nowhere = {x -> x.finds(-1), x -> x.finds(0), x -> x.finds(9), x -> x.last(-1), x -> x.last(0), x -> x.last(9),
-                x -> x.many(), x -> x.fits(-1), x -> x.fits(0), x -> x.fits(9), x -> x.folds(-1), x -> x.folds(0),
-                x -> x.folds(9)};
+            Call[] nowhere = {x -> x.finds(-1), x -> x.finds(0), x -> x.finds(9), x -> x.last(-1), x -> x.last(0),
+                x -> x.last(9), x -> x.many(), x -> x.fits(-1), x -> x.fits(0), x -> x.fits(9), x -> x.folds(-1),
+                x -> x.folds(0), x -> x.folds(9)};
             for (Call call : nowhere) {
                 due(call.of(open("abcd")), -100);
                 due(call.of(new PieceBook()), -100);

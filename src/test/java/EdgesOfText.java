@@ -202,6 +202,11 @@ final class EdgesOfText extends Asking {
             due(most.store(0, 1), 800);
             due(most.store(1, 0) + " " + most.store(1, 1), "6000 0");
             due(openTimes("\n".repeat(80), 20).store(0, 1), 1600);
+            // What another book had is of none.
+            PieceBook anew = open("a\n\n");
+            put(anew, 0, "\n\n");
+            text(anew, "b").opens(1);
+            due(anew.store(0, 1) + " " + anew.store(1, 1), "0 0");
         });
         edges.edge("NoSuchElementException: another s, another what.", () -> {
             PieceBook x = Learnt.typed();

@@ -7,7 +7,7 @@ final class Learnt extends Asking {
     private Learnt() {
     }
 
-    /** A book with edits that can be undone, marks, two that are kept, and a type() as the latest call but for a text. */
+    /** A book with edits that can be undone, marks, and two that are kept; the latest edit is a type(). */
     static PieceBook typed() {
         PieceBook x = open("ab\n(c d)\nx1 AB");
         put(x, 4, "one two");
