@@ -7,14 +7,9 @@ import java.util.regex.Pattern;
 
 /**
  * Sentences of the document, each with a test of its own. A sentence must stand, word by word, in the section that it
- * is said to be of; and no word of a promise, and nothing in "Terms" that names a boundary, may be left without one.
+ * is said to be of; and no word of a promise or of the terms may be left without one.
  */
 final class Edges extends Asking {
-    /** Words by which the document names a boundary. */
-    private static final Pattern BOUNDARY = Pattern.compile("NONE comes|-\\d+:|Refused|\\bfalse\\b|\\bempty\\b|unset"
-            + "|\\bat most\\b|\\bat least\\b|\\d \\.\\. \\w+|or more\\b|nothing else|(below|above) \\d|\\bat first\\b"
-            + "|the last one|the one that is told first|ahead of all|that are none|do nothing|refused|too\\b");
-
     private final String document;
     private final Map<String, List<int[]>> told = new HashMap<>();
     private String heading = "";
@@ -41,7 +36,7 @@ final class Edges extends Asking {
 
     private String sectionOf(String title) {
         Matcher m = Pattern.compile("(?s)\n## " + title + "\\b[^\n]*\n(.*?)(?=\n## |\\z)").matcher(document);
-        return m.find() ? m.group(1).replaceAll("\\s+", " ") : "";
+        return m.find() ? m.group(1).replaceAll("(?m)^```\\w*$|^\\d+\\. ", "").replaceAll("\\s+", " ") : "";
     }
 
     void edge(String sentence, Runnable test) {
@@ -59,28 +54,25 @@ final class Edges extends Asking {
         }
     }
 
-    /** Tells each boundary that a section names and no tested sentence holds. */
-    void lookForBoundaries(String title) {
-        about(title);
-        String words = sectionOf(title);
-        boolean[] tested = tested(title, words);
-        Matcher m = BOUNDARY.matcher(words);
-        while (m.find()) {
-            tellUntested(words, tested, m.start(), m.end());
-        }
+    /** Tells each word of a promise, behind the call's own line, that no tested sentence holds. */
+    void lookForWordsOfPromise(int n) {
+        lookForWords("Promise " + n, "`:", "");
     }
 
-    /** Tells each word of a promise, behind the call's own line, that no tested sentence holds. */
-    void lookForWords(int promise) {
-        String title = "Promise " + promise;
+    /** Tells each word of a section, behind one of its texts and ahead of another, that no tested sentence holds. */
+    void lookForWords(String title, String behind, String ahead) {
         about(title);
         String words = sectionOf(title);
         boolean[] tested = tested(title, words);
+        int from = words.indexOf(behind);
+        int end = ahead.isEmpty() ? words.length() : words.indexOf(ahead);
+        if (from < 0 || end <= from) {
+            tellWrong("the section is another one");
+            return;
+        }
         Matcher m = Pattern.compile("\\w+").matcher(words);
-        int from = words.indexOf("`:");
-        while (from >= 0 && m.find(from)) {
+        for (int at = from; m.find(at) && m.start() < end; at = m.end()) {
             tellUntested(words, tested, m.start(), m.end());
-            from = m.end();
         }
     }
 

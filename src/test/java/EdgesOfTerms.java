@@ -1,4 +1,4 @@
-/** Boundaries that the document names under "What it is" and "Terms". */
+/** What the document says under "What it is" and "Terms". */
 final class EdgesOfTerms extends Asking {
     private EdgesOfTerms() {
     }
@@ -49,6 +49,15 @@ final class EdgesOfTerms extends Asking {
             due(text(x, (char) 0 + "").inserts(0), -1);
             due(text(x, (char) 128 + "").inserts(0), -1);
         });
+        edges.edge("10 is a BREAK.", () -> {
+            for (int v = 1; v <= 127; v++) {
+                PieceBook x = open("a" + (char) v + "b");
+                due(x.count(1), v == 10 ? 2 : 1);
+                due(x.store(0, 1), v == 10 ? 1 : 0);
+                due(x.line(2), v == 10 ? 1 : 0);
+                due(x.takes(1, 1), v == 10 ? 1 : 0);
+            }
+        });
         edges.edge("THE ORIGINAL (at most 1600 SIGNS, at first none)", () -> {
             PieceBook x = new PieceBook();
             due(x.store(0, 0), 0);
@@ -59,7 +68,7 @@ final class EdgesOfTerms extends Asking {
             due(x.store(0, 0), 1600);
             due(x.at(0), 'a');
         });
-        edges.edge("THE ADDED (at most 6000 SIGNS, at first none)", () -> {
+        edges.edge("and THE ADDED (at most 6000 SIGNS, at first none)", () -> {
             due(new PieceBook().store(1, 0), 0);
             PieceBook x = filled(5999);
             due(x.type(0, 'a'), 801);
@@ -68,6 +77,55 @@ final class EdgesOfTerms extends Asking {
             due(x.store(1, 0), 6000);
             due(x.from(1, 5999), 1);
             due(x.from(1, 6000), -1);
+        });
+        stores(edges);
+        pieces(edges);
+        book(edges);
+    }
+
+    private static void stores(Edges edges) {
+        edges.edge("are STORES 0 and 1.", () -> {
+            PieceBook x = open("abc");
+            put(x, 3, "de");
+            due(x.store(0, 0), 3);
+            due(x.store(1, 0), 2);
+            due(x.piece(0, 0), 0);
+            due(x.piece(1, 0), 1);
+            due(x.from(0, 2), 1);
+            due(row(x), "2");
+            due(x.from(1, 0), 1);
+            due(row(x), "3");
+            dueNoSuchElement(() -> x.store(2, 0));
+            dueNoSuchElement(() -> x.store(-1, 0));
+        });
+    }
+
+    private static void pieces(Edges edges) {
+        edges.edge("PIECES 0, 1, ..: each a STORE, a START (a place in it, from 0 on) and", () -> {
+            PieceBook x = open("abcd");
+            put(x, 0, "xy");
+            x.takes(3, 1);
+            int[][] due = {{1, 0, 2}, {0, 0, 1}, {0, 2, 2}};
+            due(x.count(2), due.length);
+            for (int i = 0; i < due.length; i++) {
+                for (int what = 0; what < due[i].length; what++) {
+                    due(x.piece(i, what), due[i][what]);
+                }
+            }
+            dueNoSuchElement(() -> x.piece(3, 0));
+            dueNoSuchElement(() -> x.piece(-1, 0));
+        });
+        edges.edge("it shows so many SIGNS from there on.", () -> {
+            PieceBook x = open("abcd");
+            put(x, 1, "xyz");
+            x.takes(5, 1);
+            due(pieces(x), "0.0+1 1.0+3 0.1+1 0.3+1");
+            String[] due = {"0 0 0", "0 1 0", "1 1 1", "2 1 2", "0 0 1", "0 0 3"};
+            for (int p = 0; p < due.length; p++) {
+                x.shows(p);
+                due(row(x), due[p]);
+            }
+            due(shown(x), "axyzbd");
         });
         edges.edge("a LENGTH (1 or more)", () -> {
             PieceBook x = open("abcd");
@@ -87,6 +145,24 @@ final class EdgesOfTerms extends Asking {
             x.takes(0, 6);
             due(x.count(2), 0);
         });
+    }
+
+    private static void book(Edges edges) {
+        edges.edge("THE BOOK is what PIECES show, one behind the other;", () -> {
+            PieceBook x = open("abc");
+            due(shown(x), "abc");
+            x.lays(1, 1, 0);
+            x.moves(3, 1, 0);
+            put(x, 2, "xy");
+            due(pieces(x), "0.2+1 0.1+1 1.0+2 0.0+2");
+            due(shown(x), "cbxyab");
+            int begin = 0;
+            for (int i = 0; i < x.count(2); i++) {
+                due(x.piece(i, 4), begin);
+                begin += x.piece(i, 2);
+            }
+            due(x.count(0), begin);
+        });
         edges.edge("it has at most 3000 SIGNS", () -> {
             PieceBook x = full();
             due(x.count(0), 3000);
@@ -100,6 +176,13 @@ final class EdgesOfTerms extends Asking {
             due(x.count(0), 3000);
             due(x.takes(0, 1), 0);
             due(x.type(2999, 'b'), 3000);
+        });
+        edges.edge("(places 0, 1, ..;", () -> {
+            PieceBook x = open("ab");
+            due(x.at(-1), -1);
+            due(x.at(0), 'a');
+            due(x.at(1), 'b');
+            due(x.at(2), -1);
         });
         edges.edge("place p, too, is where something comes ahead of SIGN p, or behind all", () -> {
             PieceBook x = open("ab");
@@ -131,7 +214,7 @@ final class EdgesOfTerms extends Asking {
             put(x, 0, "e");
             due(pieces(x), "1.4+1");
         });
-        edges.edge("the PIECE that shows SIGN p - 1 shows it last", () -> {
+        edges.edge("and the PIECE that shows SIGN p - 1 shows it last", () -> {
             PieceBook x = new PieceBook();
             put(x, 0, "abc");
             put(x, 2, "x");
@@ -181,6 +264,22 @@ final class EdgesOfTerms extends Asking {
     }
 
     private static void takingAndLaying(Edges edges) {
+        edges.edge("To TAKE n SIGNS at a place p: what shows them is gone:", () -> {
+            PieceBook x = open("abcdef");
+            x.lays(1, 3, 6);
+            due(shown(x), "abcdefbcd");
+            x.takes(2, 3);
+            // The copy of what is taken stays, as do the signs of the store.
+            due(shown(x), "abfbcd");
+            due(x.from(0, 2), 1);
+            due(row(x), "4");
+            due(x.from(0, 4), 0);
+            due(x.store(0, 0), 6);
+            x.takes(3, 3);
+            due(shown(x), "abf");
+            due(x.from(0, 2), 0);
+            due(x.lost(0), 3);
+        });
         edges.edge("PIECES that show nothing else are gone, others are cut (one that shows SIGNS ahead of them and "
             + "behind them becomes two).", () -> {
             PieceBook x = open("abcdef");
@@ -554,6 +653,19 @@ final class EdgesOfTerms extends Asking {
 
     private static void searched(Edges edges) {
         Call[] searches = {x -> x.finds(0), x -> x.last(4), x -> x.many(), x -> x.fits(0), x -> x.folds(0)};
+        edges.edge("search (THE TEXT tells what is sought;", () -> {
+            String book = "abcabcxc";
+            for (String sought : new String[] {"a", "b", "bc", "cab", "abcabcx"}) {
+                int first = book.indexOf(sought);
+                int places = first == book.lastIndexOf(sought) ? 1 : 2;
+                long[] due = {first, book.lastIndexOf(sought, 4), places, first, first};
+                for (int i = 0; i < searches.length; i++) {
+                    PieceBook x = text(open(book), sought);
+                    due(searches[i].of(x), due[i]);
+                    due(x.count(8), 0);
+                }
+            }
+        });
         edges.edge("1 sign or more;", () -> {
             long[] due = {1, 1, 1, 1, 1};
             for (int i = 0; i < searches.length; i++) {

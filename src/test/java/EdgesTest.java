@@ -2,7 +2,7 @@ import java.io.IOException;
 import java.nio.file.Files;
 import java.nio.file.Path;
 
-/** Each sentence of the promises, and each of the terms that names a boundary, with a test of its own. */
+/** Each sentence of the terms and of the promises, with a test of its own. */
 public final class EdgesTest extends Asking {
     private static final int PROMISES = 51;
 
@@ -16,10 +16,11 @@ public final class EdgesTest extends Asking {
         EdgesOfSearch.tell(edges);
         EdgesOfBook.tell(edges);
         EdgesOfKept.tell(edges);
-        edges.lookForBoundaries("What it is");
-        edges.lookForBoundaries("Terms");
+        edges.lookForWords("What it is", "An object is used", "; what later calls answer is free");
+        edges.lookForWords("Terms", "", "Ahead of the calls `sign`");
+        edges.lookForWords("Terms", "---- search", "Ahead of the calls `pair`");
         for (int promise = 1; promise <= PROMISES; promise++) {
-            edges.lookForWords(promise);
+            edges.lookForWordsOfPromise(promise);
         }
         finish("EdgesTest: " + edges.sentences() + " sentences");
     }

@@ -12,17 +12,7 @@ import java.util.regex.Pattern;
 
 /** The face as the document tells it, and those rules of LANGUAGE.md that can be seen without running. */
 public final class FaceTest {
-    private static final String[] FACE = {
-        "int sign(int)", "boolean end(int)", "int opens(int)", "int store(int,int)", "int inserts(int)",
-        "int type(int,int)", "int takes(int,int)", "int puts(int,int)", "int lays(int,int,int)",
-        "int moves(int,int,int)", "int cuts(int)", "int indents(int,int,int)", "int heals()",
-        "int marks(int,int,int)", "int day()", "int undo()", "int redo()", "int at(int)", "int reads(int,int)",
-        "int line(int)", "int starts(int)", "int place(int,int)", "int longest()", "int mark(int)",
-        "int between(int,int)", "int piece(int,int)", "int shows(int)", "int from(int,int)", "int lost(int)",
-        "int healable()", "int finds(int)", "int last(int)", "int many()", "int fits(int)", "int folds(int)",
-        "int pair(int)", "int nested()", "int before(int)", "int word(int)", "int words()", "int rows(int)",
-        "int tally(int)", "int alike(int,int)", "int sum(int,int)", "int differs(int)", "int years(int,int)",
-        "boolean keep(int)", "boolean again(int)", "int count(int)", "long row(int)"};
+    private static final int CALLS = 50;
     private static final String[] FORBIDDEN = {"\\bcatch\\b", "\\btry\\b", "\\bfinally\\b", "->", "::",
         "\\bsynchronized\\b", "\\bassert\\b", "\\bInteger\\.parse", "Exact\\(", "\\bRandom\\b", "\\bSystem\\.(?!arraycopy)",
         "\\bThread\\b", "\\bString\\.", "\\bMath\\.random", "\\bStringBuilder\\b", "\\bimport java\\.util\\.(?!Arrays;|NoSuchElementException;)"};
@@ -30,7 +20,10 @@ public final class FaceTest {
     private static final List<String> WRONG = new ArrayList<>();
 
     public static void main(String[] args) throws Exception {
-        face();
+        String document = Files.readString(Path.of("../shared/DOC.md"));
+        List<String> told = facesCalls(document);
+        face(told);
+        parts(document, told);
         classes();
         source(Files.readString(Path.of(args.length > 0 ? args[0] : "src/main/java/PieceBook.java")));
         for (String w : WRONG) {
@@ -48,10 +41,46 @@ public final class FaceTest {
         }
     }
 
-    private static void face() {
+    /** The calls as the document's face tells them, in its order: "int takes(int,int)". */
+    private static List<String> facesCalls(String document) {
+        List<String> told = new ArrayList<>();
+        Matcher block = Pattern.compile("(?s)## The public face\\s+```java\n(.*?)```").matcher(document);
+        Matcher m = Pattern.compile("public (\\w+ \\w+\\()([^)]*)\\)( throws \\w+)?;")
+                .matcher(block.find() ? block.group(1) : "");
+        while (m.find()) {
+            told.add(m.group(1) + m.group(2).replaceAll(" \\w+,? ?", ",").replaceAll(",$", "") + ")"
+                    + (m.group(3) == null ? "" : m.group(3)));
+        }
+        due(told.size() == CALLS, "the document's face tells " + told.size() + " calls");
+        return told;
+    }
+
+    private static String nameOf(String call) {
+        return call.substring(call.indexOf(' ') + 1, call.indexOf('('));
+    }
+
+    /** Which calls are edits and which are questions hangs on the parts, so these must hold the whole face in its order. */
+    private static void parts(String document, List<String> told) {
+        List<String> names = new ArrayList<>();
+        Matcher part = Pattern.compile("Ahead of the calls (.*?) the interface says").matcher(document);
+        while (part.find()) {
+            Matcher m = Pattern.compile("`(\\w+)`").matcher(part.group(1));
+            while (m.find()) {
+                names.add(m.group(1));
+            }
+        }
+        List<String> inOrder = new ArrayList<>();
+        for (String call : told) {
+            inOrder.add(nameOf(call));
+        }
+        due(names.equals(inOrder), "the parts hold " + names);
+    }
+
+    private static void face(List<String> told) {
         Class<?> c = PieceBook.class;
+        due(PieceBook.NONE == -1, "NONE is " + PieceBook.NONE);
         due(Modifier.isPublic(c.getModifiers()) && Modifier.isFinal(c.getModifiers()), "the class is public and final");
-        TreeSet<String> due = new TreeSet<>(List.of(FACE));
+        TreeSet<String> due = new TreeSet<>(told);
         TreeSet<String> got = new TreeSet<>();
         TreeSet<String> hidden = new TreeSet<>();
         for (Method m : c.getDeclaredMethods()) {
@@ -63,7 +92,11 @@ public final class FaceTest {
             for (Class<?> p : m.getParameterTypes()) {
                 b.append(b.charAt(b.length() - 1) == '(' ? "" : ",").append(p);
             }
-            got.add(b.append(')').toString());
+            b.append(')');
+            for (Class<?> thrown : m.getExceptionTypes()) {
+                b.append(" throws ").append(thrown.getSimpleName());
+            }
+            got.add(b.toString());
         }
         for (Class<?> inside : c.getDeclaredClasses()) {
             for (Method m : inside.getDeclaredMethods()) {
@@ -71,13 +104,13 @@ public final class FaceTest {
             }
         }
         due(got.equals(due), "the methods are " + got);
-        for (String call : FACE) {
-            String name = call.substring(call.indexOf(' ') + 1, call.indexOf('('));
+        for (String call : told) {
+            String name = nameOf(call);
             due(!hidden.contains(name), "a private method bears the name of a public one: " + name);
         }
         for (Field f : c.getDeclaredFields()) {
-            boolean told = f.getName().equals("NONE");
-            due(told ? Modifier.isPublic(f.getModifiers()) : Modifier.isPrivate(f.getModifiers()), f + " is of another face");
+            boolean isTold = f.getName().equals("NONE");
+            due(isTold ? Modifier.isPublic(f.getModifiers()) : Modifier.isPrivate(f.getModifiers()), f + " is of another face");
         }
         Constructor<?>[] makers = c.getDeclaredConstructors();
         due(makers.length == 1 && Modifier.isPublic(makers[0].getModifiers())
